@@ -83,6 +83,9 @@ public final class BoxPromisesTest {
         // 4 3 1 has less bits than 4 2 1 and 3 2 1
         noneIs(with(4, 3, 2, 1), 3, 11);
         noneIs(with(3, 4, 5, 9, 2), 4, 29);
+        // 1 1 2 3 5 8 of those scrambled; with 1 1 2 4 7 there are but five
+        noneIs(with(4, 8, 3, 1, 7, 5, 2, 1), 6, 2 + 4 + 8 + 32 + 64 + 128);
+        noneIs(with(99, 50, 49, 2, 1), 4, 1 + 2 + 4 + 16);
         noneIs(with(55, 34, 21, 13, 8, 5, 3, 2, 1, 89), 10, 1023);
         noneIs(with(7, 7, 7, 7, 7, 7, 7, 7, 7, 7), 2, 3);
         Due.is("none(2)", with(1).none(2), BrokenThree.NONE);

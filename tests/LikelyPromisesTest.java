@@ -110,6 +110,9 @@ public final class LikelyPromisesTest {
         s = with("long 17;cuts 3", 0);
         // 17 has 11 sums of four unlike lengths, each in 24 orders, of 560
         likelyIs(s, 0, 5, 0, "33/70");
+        likelyIs(s, 0, 4, 1, "1/1");
+        likelyIs(s, 0, 3, 14, "1/140");
+        likelyIs(s, 0, 3, 1, "1/1");
     }
 
     private static void likelyRefused() {

@@ -108,6 +108,10 @@ public final class YardPromisesTest {
         fault("long 03", 6);
         fault("long 0", -1);
         fault("long 123", 7);
+        fault("long :", 5);
+        fault("long 1:", 6);
+        fault("long /", 5);
+        fault("long 1/", 6);
         fault("long 3 ", 6);
         fault("long 3;", 7);
         fault("long 3;;", 7);
@@ -190,6 +194,13 @@ public final class YardPromisesTest {
         Due.is("the stick is whole", s.told(2), 1);
         Due.is("nothing is spent", s.told(3), 0);
         Due.is("piece(0)", s.piece(0), 12);
+        Due.yard(s, "long 5;hard 1 x>0;price 3 x>0");
+        BrokenThree other = with("long 5;hard 1 x>0;price 3 x>0", 0);
+        mayIs(other, 0, "");
+        Due.is("yard()", Due.yard(other, "long 4"), 1);
+        mayIs(other, 0, "1,2,3");
+        other.breaks(0, 0);
+        Due.is("the older one's prices are gone", other.told(3), 0);
     }
 
     private static void breaker() {
@@ -239,6 +250,14 @@ public final class YardPromisesTest {
         mayIs(with("long 7;hard 1 l=7", 0), 0, "");
         mayIs(with("long 7;hard 1 l=8", 0), 0, "1,2,3,4,5,6");
         mayIs(with("long 7;price 1 x=3", 0), 0, "1,2,3,4,5,6");
+        mayIs(with("long 7;hard 1 c<1", 0), 0, "");
+        mayIs(with("long 7;hard 1 c<0", 0), 0, "1,2,3,4,5,6");
+        mayIs(with("long 7;hard 1 c>0", 0), 0, "1,2,3,4,5,6");
+        mayIs(with("long 7;hard 1 k<1&x=1", 0, 1), 0, "2,3,4,5,6");
+        mayIs(with("long 7;hard 1 k<1&x=1", 0, 1), 1, "1,2,3,4,5,6");
+        mayIs(with("long 7;hard 1 l<8&x=1", 0), 0, "2,3,4,5,6");
+        mayIs(with("long 7;hard 1 l<7&x=1", 0), 0, "1,2,3,4,5,6");
+        mayIs(with("long 7;hard 1 x<10&x>0&x=1", 0), 0, "2,3,4,5,6");
         BrokenThree s = with("long 7;hard 1 k=1&x=2;hard 1 c=1&x=5", 0, 1);
         mayIs(s, 0, "1,2,3,4,5,6");
         mayIs(s, 1, "1,3,4,5,6");
@@ -349,6 +368,10 @@ public final class YardPromisesTest {
         s.breaks(0, 0);
         Due.is("told(3), 3 more", s.told(3), 104);
         Due.is("told(2), more than cuts to be made", s.told(2), 4);
+        BrokenThree one = with("long 10;price 3 x=2&l=9;price 4 r=1", 0);
+        one.breaks(0, 0);
+        one.breaks(0, 0);
+        Due.is("told(3), 4, then 3 + 4", one.told(3), 11);
         Due.is("told(4)", s.told(4), BrokenThree.NONE);
         Due.is("told(-1)", s.told(-1), BrokenThree.NONE);
     }
@@ -364,6 +387,10 @@ public final class YardPromisesTest {
         Due.is("piece(2)", s.piece(2), 3);
         Due.is("piece(3)", s.piece(3), BrokenThree.NONE);
         Due.is("piece(-1)", s.piece(-1), BrokenThree.NONE);
+        s.breaks(0, 0);
+        Due.is("piece(0)", s.piece(0), 1);
+        Due.is("piece(1)", s.piece(1), 1);
+        Due.is("piece(3)", s.piece(3), 3);
     }
 
     private static void breaks() {
