@@ -20,15 +20,6 @@ public final class YardPromisesTest {
         Due.end("YardPromisesTest");
     }
 
-    private static BrokenThree with(String yard, int... kinds) {
-        BrokenThree s = new BrokenThree();
-        Due.is("yard() of " + yard, Due.yard(s, yard), 0);
-        for (int kind : kinds) {
-            s.breaker(kind, 0);
-        }
-        return s;
-    }
-
     /** The notches at which a breaker may break, as "1,2,3". */
     private static String may(BrokenThree s, int breaker) {
         StringBuilder all = new StringBuilder();
@@ -175,7 +166,7 @@ public final class YardPromisesTest {
 
     private static void yardHolds() {
         Due.promise(3, "yard, which holds");
-        BrokenThree s = with("long 1;long 0", 0);
+        BrokenThree s = Due.stick("long 1;long 0", 0);
         Due.is("length of long 0", s.told(0), 2);
         Due.is("yard()", Due.yard(s, "long 3;long 99;cuts 9"), 1);
         Due.is("length of long 99", s.told(0), 17);
@@ -195,7 +186,7 @@ public final class YardPromisesTest {
         Due.is("nothing is spent", s.told(3), 0);
         Due.is("piece(0)", s.piece(0), 12);
         Due.yard(s, "long 5;hard 1 x>0;price 3 x>0");
-        BrokenThree other = with("long 5;hard 1 x>0;price 3 x>0", 0);
+        BrokenThree other = Due.stick("long 5;hard 1 x>0;price 3 x>0", 0);
         mayIs(other, 0, "");
         Due.is("yard()", Due.yard(other, "long 4"), 1);
         mayIs(other, 0, "1,2,3");
@@ -221,7 +212,7 @@ public final class YardPromisesTest {
 
     private static void of() {
         Due.promise(5, "of");
-        BrokenThree s = with("long 6");
+        BrokenThree s = Due.stick("long 6");
         s.breaker(2, 7);
         Due.is("of(0, 0)", s.of(0, 0), 2);
         Due.is("of(0, 1)", s.of(0, 1), 7);
@@ -238,27 +229,27 @@ public final class YardPromisesTest {
 
     private static void hardness() {
         Due.promise(5, "of, where it is too hard");
-        mayIs(with("long 7;hard 1 x=3", 0), 0, "1,2,4,5,6");
-        mayIs(with("long 7;hard 0 x=3", 0), 0, "1,2,3,4,5,6");
-        mayIs(with("long 7;hard 0 x<4;hard 2 x=3", 0), 0, "1,2,4,5,6");
-        mayIs(with("long 7;hard 1 r<2", 0), 0, "2,3,4,5");
-        mayIs(with("long 7;hard 1 r>2", 0), 0, "1,2,5,6");
-        mayIs(with("long 7;hard 1 !(x=2|x=4)", 0), 0, "2,4");
-        mayIs(with("long 7;hard 1 x>1&x<4|x=6", 0), 0, "1,4,5");
-        mayIs(with("long 7;hard 1 x=6|x>1&x<4", 0), 0, "1,4,5");
-        mayIs(with("long 7;hard 1 !x=6&!x=2", 0), 0, "2,6");
-        mayIs(with("long 7;hard 1 l=7", 0), 0, "");
-        mayIs(with("long 7;hard 1 l=8", 0), 0, "1,2,3,4,5,6");
-        mayIs(with("long 7;price 1 x=3", 0), 0, "1,2,3,4,5,6");
-        mayIs(with("long 7;hard 1 c<1", 0), 0, "");
-        mayIs(with("long 7;hard 1 c<0", 0), 0, "1,2,3,4,5,6");
-        mayIs(with("long 7;hard 1 c>0", 0), 0, "1,2,3,4,5,6");
-        mayIs(with("long 7;hard 1 k<1&x=1", 0, 1), 0, "2,3,4,5,6");
-        mayIs(with("long 7;hard 1 k<1&x=1", 0, 1), 1, "1,2,3,4,5,6");
-        mayIs(with("long 7;hard 1 l<8&x=1", 0), 0, "2,3,4,5,6");
-        mayIs(with("long 7;hard 1 l<7&x=1", 0), 0, "1,2,3,4,5,6");
-        mayIs(with("long 7;hard 1 x<10&x>0&x=1", 0), 0, "2,3,4,5,6");
-        BrokenThree s = with("long 7;hard 1 k=1&x=2;hard 1 c=1&x=5", 0, 1);
+        mayIs(Due.stick("long 7;hard 1 x=3", 0), 0, "1,2,4,5,6");
+        mayIs(Due.stick("long 7;hard 0 x=3", 0), 0, "1,2,3,4,5,6");
+        mayIs(Due.stick("long 7;hard 0 x<4;hard 2 x=3", 0), 0, "1,2,4,5,6");
+        mayIs(Due.stick("long 7;hard 1 r<2", 0), 0, "2,3,4,5");
+        mayIs(Due.stick("long 7;hard 1 r>2", 0), 0, "1,2,5,6");
+        mayIs(Due.stick("long 7;hard 1 !(x=2|x=4)", 0), 0, "2,4");
+        mayIs(Due.stick("long 7;hard 1 x>1&x<4|x=6", 0), 0, "1,4,5");
+        mayIs(Due.stick("long 7;hard 1 x=6|x>1&x<4", 0), 0, "1,4,5");
+        mayIs(Due.stick("long 7;hard 1 !x=6&!x=2", 0), 0, "2,6");
+        mayIs(Due.stick("long 7;hard 1 l=7", 0), 0, "");
+        mayIs(Due.stick("long 7;hard 1 l=8", 0), 0, "1,2,3,4,5,6");
+        mayIs(Due.stick("long 7;price 1 x=3", 0), 0, "1,2,3,4,5,6");
+        mayIs(Due.stick("long 7;hard 1 c<1", 0), 0, "");
+        mayIs(Due.stick("long 7;hard 1 c<0", 0), 0, "1,2,3,4,5,6");
+        mayIs(Due.stick("long 7;hard 1 c>0", 0), 0, "1,2,3,4,5,6");
+        mayIs(Due.stick("long 7;hard 1 k<1&x=1", 0, 1), 0, "2,3,4,5,6");
+        mayIs(Due.stick("long 7;hard 1 k<1&x=1", 0, 1), 1, "1,2,3,4,5,6");
+        mayIs(Due.stick("long 7;hard 1 l<8&x=1", 0), 0, "2,3,4,5,6");
+        mayIs(Due.stick("long 7;hard 1 l<7&x=1", 0), 0, "1,2,3,4,5,6");
+        mayIs(Due.stick("long 7;hard 1 x<10&x>0&x=1", 0), 0, "2,3,4,5,6");
+        BrokenThree s = Due.stick("long 7;hard 1 k=1&x=2;hard 1 c=1&x=5", 0, 1);
         mayIs(s, 0, "1,2,3,4,5,6");
         mayIs(s, 1, "1,3,4,5,6");
         Due.is("breaks(0, 2)", s.breaks(0, 2), 3);
@@ -269,7 +260,7 @@ public final class YardPromisesTest {
 
     private static void kinds() {
         Due.promise(5, "of, by kinds");
-        BrokenThree s = with("long 17", 0, 1, 2, 3, 4);
+        BrokenThree s = Due.stick("long 17", 0, 1, 2, 3, 4);
         mayIs(s, 4, "8,9");
         // 3 5 4 5
         s.breaks(0, 2);
@@ -284,7 +275,7 @@ public final class YardPromisesTest {
         s.breaker(5, 3);
         mayIs(s, 5, "9,10,11");
 
-        BrokenThree thin = with("long 17", 0);
+        BrokenThree thin = Due.stick("long 17", 0);
         thin.breaks(0, 2);
         thin.breaks(0, 6);
         thin.breaks(0, 9);
@@ -296,7 +287,7 @@ public final class YardPromisesTest {
         mayIs(thin, 3, "");
 
         // pieces that are hard all over are not open: the next one is taken
-        BrokenThree hard = with("long 12;hard 1 l=6;hard 1 l=2;hard 1 x=9", 0, 1, 2, 3, 4);
+        BrokenThree hard = Due.stick("long 12;hard 1 l=6;hard 1 l=2;hard 1 x=9", 0, 1, 2, 3, 4);
         hard.breaks(0, 1);
         hard.breaks(0, 4);
         Due.is("pieces", hard.piece(0) * 100 + hard.piece(1) * 10 + hard.piece(2), 255);
@@ -310,14 +301,14 @@ public final class YardPromisesTest {
         mayIs(hard, 4, "10");
         mayIs(hard, 3, "4,5,6");
         Due.promise(5, "of a halving one whose middle is hard");
-        mayIs(with("long 8;hard 1 k=4&r=4", 4), 0, "3,5");
-        mayIs(with("long 8;hard 1 k=4&(r=4|x=5)", 4), 0, "3");
-        mayIs(with("long 8;hard 1 k=1&r=4", 4), 0, "4");
+        mayIs(Due.stick("long 8;hard 1 k=4&r=4", 4), 0, "3,5");
+        mayIs(Due.stick("long 8;hard 1 k=4&(r=4|x=5)", 4), 0, "3");
+        mayIs(Due.stick("long 8;hard 1 k=1&r=4", 4), 0, "4");
     }
 
     private static void row() {
         Due.promise(6, "row");
-        BrokenThree s = with("long 9", 0, 6);
+        BrokenThree s = Due.stick("long 9", 0, 6);
         Due.is("row(1, 0, 3)", s.row(1, 0, 3), 0);
         Due.is("row(1, 0, 9)", s.row(1, 0, 9), 3);
         Due.is("row(1, 3, 1)", s.row(1, 3, 1), 0);
@@ -355,7 +346,7 @@ public final class YardPromisesTest {
 
     private static void told() {
         Due.promise(7, "told");
-        BrokenThree s = with("long 10;cuts 1;price 3 x>0;price 20 r>4;price 5 c=1;price 70 k=1;price 0 x>0", 0, 1);
+        BrokenThree s = Due.stick("long 10;cuts 1;price 3 x>0;price 20 r>4;price 5 c=1;price 70 k=1;price 0 x>0", 0, 1);
         Due.is("told(0)", s.told(0), 10);
         Due.is("told(1)", s.told(1), 1);
         Due.is("told(2)", s.told(2), 1);
@@ -368,7 +359,7 @@ public final class YardPromisesTest {
         s.breaks(0, 0);
         Due.is("told(3), 3 more", s.told(3), 104);
         Due.is("told(2), more than cuts to be made", s.told(2), 4);
-        BrokenThree one = with("long 10;price 3 x=2&l=9;price 4 r=1", 0);
+        BrokenThree one = Due.stick("long 10;price 3 x=2&l=9;price 4 r=1", 0);
         one.breaks(0, 0);
         one.breaks(0, 0);
         Due.is("told(3), 4, then 3 + 4", one.told(3), 11);
@@ -378,7 +369,7 @@ public final class YardPromisesTest {
 
     private static void piece() {
         Due.promise(8, "piece");
-        BrokenThree s = with("long 10", 0);
+        BrokenThree s = Due.stick("long 10", 0);
         Due.is("piece(0)", s.piece(0), 10);
         s.breaks(0, 6);
         s.breaks(0, 1);
@@ -395,7 +386,7 @@ public final class YardPromisesTest {
 
     private static void breaks() {
         Due.promise(9, "breaks");
-        BrokenThree s = with("long 4", 0);
+        BrokenThree s = Due.stick("long 4", 0);
         Due.is("breaks(1, 0)", s.breaks(1, 0), BrokenThree.NONE);
         Due.is("breaks(1, 100)", s.breaks(1, 100), BrokenThree.NONE);
         Due.is("breaks(0, 100)", s.breaks(0, 100), BrokenThree.BAD);
@@ -410,7 +401,7 @@ public final class YardPromisesTest {
 
     private static void whole() {
         Due.promise(10, "whole");
-        BrokenThree s = with("long 4;price 2 x>0", 0);
+        BrokenThree s = Due.stick("long 4;price 2 x>0", 0);
         Due.is("whole()", s.whole(), 1);
         s.breaks(0, 0);
         s.breaks(0, 0);
@@ -437,7 +428,7 @@ public final class YardPromisesTest {
     }
 
     private static void shapes(String yard, int[] places, int... want) {
-        BrokenThree s = with(yard, 0);
+        BrokenThree s = Due.stick(yard, 0);
         for (int place : places) {
             int k = 0;
             while (s.of(0, 10 + k) != place) {

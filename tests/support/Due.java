@@ -40,6 +40,16 @@ final class Due {
         }
     }
 
+    /** A new object with a yard and breakers of these kinds, v being 0. */
+    static BrokenThree stick(String yard, int... kinds) {
+        BrokenThree stick = new BrokenThree();
+        is("yard() of " + yard, yard(stick, yard), 0);
+        for (int kind : kinds) {
+            stick.breaker(kind, 0);
+        }
+        return stick;
+    }
+
     /** A text onto the tape, and then yard(). */
     static int yard(BrokenThree stick, String text) {
         feed(stick, text);

@@ -22,7 +22,7 @@ public final class BrokenThree {
 
     /** 360360 is a multiple of 1 .. 15: the second break has 15 ways at most, the third 14, so shares stay whole. */
     private static final long UNIT = 360360L * 360360L;
-    /** A multiple of 1 .. 16, all numbers of ways that a first break can have. */
+    /** A multiple of 1 .. 16, which are all numbers of ways that a first break can have. */
     private static final long FIRST_WAYS = 720720L;
 
     private final State now;
@@ -41,7 +41,7 @@ public final class BrokenThree {
         now = new State();
         kept = new State();
         hasImage = false;
-        reader = new Reader();
+        reader = new Reader(now);
         chooser = new Chooser(now);
         pieces = new Shape();
         ends = new Ends(now, chooser, pieces);
@@ -69,7 +69,7 @@ public final class BrokenThree {
         if (now.yards >= MOST_YARDS) {
             return FULL;
         }
-        int fault = reader.faultIn(now.tape, now.signs);
+        int fault = reader.faultInTape();
         now.signs = 0;
         if (fault >= 0) {
             return FAULT_BASE - fault;
@@ -380,7 +380,7 @@ public final class BrokenThree {
         long most = 0;
         for (int breaker = 0; breaker < now.breakers; breaker++) {
             follower.follow(breaker, now.sight, now.seen);
-            long chance = follower.weight * (FIRST_WAYS / follower.firstWays);
+            long chance = follower.comparableWeight();
             if (chance > most) {
                 most = chance;
                 likeliest = breaker;
@@ -644,22 +644,23 @@ public final class BrokenThree {
         }
     }
 
-    /** Reads a tape into a yard; where it stops, no yard can go on. */
+    /** Reads the tape into a yard; where it stops, no yard can go on. */
     private static final class Reader {
         private static final int END = -1;
 
+        private final State now;
         private final Yard draft = new Yard();
-        private int[] tape = new int[0];
-        private int size;
         private int spot;
         /** The first letter of the clause's word, and the number behind the word. */
         private int word;
         private int wordNumber;
 
+        private Reader(State now) {
+            this.now = now;
+        }
+
         /** The fault's place, or -1: the draft is the yard. */
-        private int faultIn(int[] signs, int count) {
-            tape = signs;
-            size = count;
+        private int faultInTape() {
             spot = 0;
             draft.clear();
             for (int clause = 0; clause < MOST_CLAUSES; clause++) {
@@ -668,7 +669,7 @@ public final class BrokenThree {
                     return spot;
                 }
                 keepClause();
-                if (spot >= size) {
+                if (spot >= now.signs) {
                     return -1;
                 }
                 if (clause == MOST_CLAUSES - 1 || !takes(';')) {
@@ -809,7 +810,7 @@ public final class BrokenThree {
         }
 
         private int sign() {
-            return spot >= 0 && spot < size && spot < tape.length ? tape[spot] : END;
+            return spot >= 0 && spot < now.signs && spot < now.tape.length ? now.tape[spot] : END;
         }
     }
 
@@ -950,7 +951,8 @@ public final class BrokenThree {
                 case SHORTEST: return shortestOpen(0);
                 case THIN: return shortestOpen(at(now.values, breaker));
                 case TOLD: return opens > 0 ? at(now.rows, breaker * ROW_SIZE + cuts % ROW_SIZE) % opens : -1;
-                default: return 0;
+                case LEFT: return 0;
+                default: return -1;
             }
         }
 
@@ -1234,6 +1236,11 @@ public final class BrokenThree {
                 }
                 breakOn(0, UNIT * firstWays, 0);
             }
+        }
+
+        /** The weight, as if the first break had as many ways by every breaker. */
+        private long comparableWeight() {
+            return firstWays > 0 ? weight * (FIRST_WAYS / firstWays) : 0L;
         }
 
         private void breakOn(int broken, long share, int cuts) {
