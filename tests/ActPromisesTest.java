@@ -111,9 +111,9 @@ public final class ActPromisesTest {
         s.breaker(6, 4);
         s.breaker(0, 5);
         s.row(0, 1, 2);
-        Due.yard(s, "long 7;cuts 1;hard 1 x=1;price 3 x=2");
+        Lay.yard(s, "long 7;cuts 1;hard 1 x=1;price 3 x=2");
         s.breaks(1, 0);
-        Due.feed(s, "long ");
+        Lay.feed(s, "long ");
         s.box(3);
         s.box(4);
         s.box(5);
@@ -145,9 +145,9 @@ public final class ActPromisesTest {
         s.breaker(6, 9);
         s.row(2, 1, 8);
         s.yard();
-        Due.yard(s, "long 17;cuts 3;hard 1 x=5");
+        Lay.yard(s, "long 17;cuts 3;hard 1 x=5");
         s.breaks(1, 3);
-        Due.feed(s, "cuts");
+        Lay.feed(s, "cuts");
         s.box(-1);
         s.box(9);
         s.see(-1);
@@ -195,7 +195,7 @@ public final class ActPromisesTest {
         BrokenThree s = new BrokenThree();
         s.breaker(4, 0);
         s.breaker(0, 0);
-        Due.yard(s, "long 9");
+        Lay.yard(s, "long 9");
         s.box(1);
         s.box(1);
         s.box(1);
@@ -205,7 +205,7 @@ public final class ActPromisesTest {
         s.see(4);
         s.book(1, 1, 1, true);
         s.book(1, 1, 1, true);
-        Due.feed(s, "abcdef");
+        Lay.feed(s, "abcdef");
         s.act(0, 2, 1);
         int[] due = {2, 1, 3, 4, 2, 6, 7};
         for (int what = 0; what < due.length; what++) {

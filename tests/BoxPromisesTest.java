@@ -10,14 +10,6 @@ public final class BoxPromisesTest {
         Due.end("BoxPromisesTest");
     }
 
-    private static BrokenThree with(int... lengths) {
-        BrokenThree s = new BrokenThree();
-        for (int length : lengths) {
-            s.box(length);
-        }
-        return s;
-    }
-
     private static void box() {
         Due.promise(17, "box");
         BrokenThree s = new BrokenThree();
@@ -37,15 +29,15 @@ public final class BoxPromisesTest {
 
     private static void triangles() {
         Due.promise(18, "triangles");
-        Due.is("of none", with().triangles(), 0);
-        Due.is("of two", with(3, 3).triangles(), 0);
-        Due.is("of 3 4 5", with(3, 4, 5).triangles(), 1);
-        Due.is("of 1 2 3", with(1, 2, 3).triangles(), 0);
-        Due.is("of 5 3 2", with(5, 3, 2).triangles(), 0);
-        Due.is("of 2 2 2 2", with(2, 2, 2, 2).triangles(), 4);
-        Due.is("of 4 1 3 2 5", with(4, 1, 3, 2, 5).triangles(), 3);
-        Due.is("of ten alike", with(7, 7, 7, 7, 7, 7, 7, 7, 7, 7).triangles(), 120);
-        BrokenThree s = with(3, 4, 5);
+        Due.is("of none", Lay.box().triangles(), 0);
+        Due.is("of two", Lay.box(3, 3).triangles(), 0);
+        Due.is("of 3 4 5", Lay.box(3, 4, 5).triangles(), 1);
+        Due.is("of 1 2 3", Lay.box(1, 2, 3).triangles(), 0);
+        Due.is("of 5 3 2", Lay.box(5, 3, 2).triangles(), 0);
+        Due.is("of 2 2 2 2", Lay.box(2, 2, 2, 2).triangles(), 4);
+        Due.is("of 4 1 3 2 5", Lay.box(4, 1, 3, 2, 5).triangles(), 3);
+        Due.is("of ten alike", Lay.box(7, 7, 7, 7, 7, 7, 7, 7, 7, 7).triangles(), 120);
+        BrokenThree s = Lay.box(3, 4, 5);
         s.box(-1);
         s.box(3);
         Due.is("of 3, the box emptied before", s.triangles(), 0);
@@ -57,14 +49,14 @@ public final class BoxPromisesTest {
 
     private static void drawn() {
         Due.promise(19, "drawn");
-        drawnIs(with(4, 1, 3, 2, 5), "3/10");
-        drawnIs(with(3, 4, 5), "1/1");
-        drawnIs(with(1, 2, 3), "0/1");
-        drawnIs(with(2, 2, 2, 9), "1/4");
-        Due.is("drawn(0) of two", with(2, 2).drawn(0), BrokenThree.NO);
-        Due.is("drawn(1) of none", with().drawn(1), BrokenThree.NO);
-        Due.is("drawn(2)", with(3, 4, 5).drawn(2), BrokenThree.NO);
-        Due.is("drawn(-1)", with(3, 4, 5).drawn(-1), BrokenThree.NO);
+        drawnIs(Lay.box(4, 1, 3, 2, 5), "3/10");
+        drawnIs(Lay.box(3, 4, 5), "1/1");
+        drawnIs(Lay.box(1, 2, 3), "0/1");
+        drawnIs(Lay.box(2, 2, 2, 9), "1/4");
+        Due.is("drawn(0) of two", Lay.box(2, 2).drawn(0), BrokenThree.NO);
+        Due.is("drawn(1) of none", Lay.box().drawn(1), BrokenThree.NO);
+        Due.is("drawn(2)", Lay.box(3, 4, 5).drawn(2), BrokenThree.NO);
+        Due.is("drawn(-1)", Lay.box(3, 4, 5).drawn(-1), BrokenThree.NO);
     }
 
     private static void noneIs(BrokenThree s, int many, int bits) {
@@ -74,22 +66,22 @@ public final class BoxPromisesTest {
 
     private static void none() {
         Due.promise(20, "none");
-        noneIs(with(), 0, 0);
-        noneIs(with(9), 1, 1);
-        noneIs(with(9, 9), 2, 3);
-        noneIs(with(9, 9, 9), 2, 3);
-        noneIs(with(1, 2, 3), 3, 7);
-        noneIs(with(5, 4, 3, 2, 1), 4, 29);
+        noneIs(Lay.box(), 0, 0);
+        noneIs(Lay.box(9), 1, 1);
+        noneIs(Lay.box(9, 9), 2, 3);
+        noneIs(Lay.box(9, 9, 9), 2, 3);
+        noneIs(Lay.box(1, 2, 3), 3, 7);
+        noneIs(Lay.box(5, 4, 3, 2, 1), 4, 29);
         // 4 3 1 has less bits than 4 2 1 and 3 2 1
-        noneIs(with(4, 3, 2, 1), 3, 11);
-        noneIs(with(3, 4, 5, 9, 2), 4, 29);
+        noneIs(Lay.box(4, 3, 2, 1), 3, 11);
+        noneIs(Lay.box(3, 4, 5, 9, 2), 4, 29);
         // 1 1 2 3 5 8 of those scrambled; with 1 1 2 4 7 there are but five
-        noneIs(with(4, 8, 3, 1, 7, 5, 2, 1), 6, 2 + 4 + 8 + 32 + 64 + 128);
-        noneIs(with(99, 50, 49, 2, 1), 4, 1 + 2 + 4 + 16);
-        noneIs(with(55, 34, 21, 13, 8, 5, 3, 2, 1, 89), 10, 1023);
-        noneIs(with(7, 7, 7, 7, 7, 7, 7, 7, 7, 7), 2, 3);
-        Due.is("none(2)", with(1).none(2), BrokenThree.NONE);
-        Due.is("none(-1)", with(1).none(-1), BrokenThree.NONE);
+        noneIs(Lay.box(4, 8, 3, 1, 7, 5, 2, 1), 6, 2 + 4 + 8 + 32 + 64 + 128);
+        noneIs(Lay.box(99, 50, 49, 2, 1), 4, 1 + 2 + 4 + 16);
+        noneIs(Lay.box(55, 34, 21, 13, 8, 5, 3, 2, 1, 89), 10, 1023);
+        noneIs(Lay.box(7, 7, 7, 7, 7, 7, 7, 7, 7, 7), 2, 3);
+        Due.is("none(2)", Lay.box(1).none(2), BrokenThree.NONE);
+        Due.is("none(-1)", Lay.box(1).none(-1), BrokenThree.NONE);
     }
 
     private static void stair() {
@@ -106,7 +98,7 @@ public final class BoxPromisesTest {
 
     private static void sawnIs(int length, int p, int most, int... pieces) {
         BrokenThree s = new BrokenThree();
-        Due.yard(s, "long " + length);
+        Lay.yard(s, "long " + length);
         Due.is("sawn(" + p + ", -1) of " + length, s.sawn(p, -1), most);
         for (int k = 0; k <= 5; k++) {
             Due.is("sawn(" + p + ", " + k + ") of " + length, s.sawn(p, k), k < pieces.length ? pieces[k] : -5);
@@ -132,7 +124,7 @@ public final class BoxPromisesTest {
         Due.is("sawn(2, 0)", s.sawn(2, 0), BrokenThree.BAD);
         Due.is("sawn(7, 0)", s.sawn(7, 0), BrokenThree.BAD);
         Due.is("sawn(7, 6)", s.sawn(7, 6), BrokenThree.NONE);
-        Due.yard(s, "long 2");
+        Lay.yard(s, "long 2");
         Due.is("sawn(3, 6)", s.sawn(3, 6), BrokenThree.NONE);
         Due.is("sawn(2, 5)", s.sawn(2, 5), BrokenThree.BAD);
     }

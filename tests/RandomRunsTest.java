@@ -38,7 +38,7 @@ public final class RandomRunsTest {
         for (int i = 0; i < texts; i++) {
             String text = maker.yardText();
             int due = Model.faultOf(text);
-            int got = Due.yard(new BrokenThree(), text);
+            int got = Lay.yard(new BrokenThree(), text);
             good += due < 0 ? 1 : 0;
             if (got != (due < 0 ? 0 : -10 - due)) {
                 System.out.println("yard() of \"" + text + "\" answered " + got + ", due is fault " + due);

@@ -13,14 +13,6 @@ public final class RowPromisesTest {
         Due.end("RowPromisesTest");
     }
 
-    private static BrokenThree seen(BrokenThree s, int... lengths) {
-        s.see(-1);
-        for (int length : lengths) {
-            s.see(length);
-        }
-        return s;
-    }
-
     private static void see() {
         Due.promise(23, "see");
         BrokenThree s = new BrokenThree();
@@ -40,8 +32,8 @@ public final class RowPromisesTest {
 
     private static void orders() {
         Due.promise(24, "orders");
-        BrokenThree s = Due.stick("long 9;cuts 3", 0, 1, 2, 3, 4);
-        seen(s, 2, 3, 2, 2);
+        BrokenThree s = Lay.stick("long 9;cuts 3", 0, 1, 2, 3, 4);
+        Lay.seen(s, 2, 3, 2, 2);
         Due.is("anywhere", s.orders(0), 6);
         // at 2, 5, 7; 2, 7, 5; 5, 2, 7; 7, 2, 5; 7, 5, 2
         Due.is("longest", s.orders(1), 5);
@@ -50,24 +42,24 @@ public final class RowPromisesTest {
         // at 7, 5, 2 alone: a 2 on the left would be broken next
         Due.is("left", s.orders(3), 1);
         Due.is("halving", s.orders(4), 1);
-        seen(s, 1, 1, 1, 6);
+        Lay.seen(s, 1, 1, 1, 6);
         // at 1, 2, 3; 1, 3, 2; 2, 1, 3; 3, 1, 2; 3, 2, 1
         Due.is("left", s.orders(3), 5);
-        seen(s, 3, 3, 3);
+        Lay.seen(s, 3, 3, 3);
         Due.is("fewer pieces than can be", s.orders(0), 0);
-        seen(s, 3, 3, 2, 2);
+        Lay.seen(s, 3, 3, 2, 2);
         Due.is("too long", s.orders(0), 0);
-        seen(s, 3, 2, 2, 1);
+        Lay.seen(s, 3, 2, 2, 1);
         Due.is("too short", s.orders(0), 0);
-        seen(s, 17, 17, 17, 17);
+        Lay.seen(s, 17, 17, 17, 17);
         Due.is("far too long", s.orders(0), 0);
-        seen(s);
+        Lay.seen(s);
         Due.is("nothing told", s.orders(0), 0);
-        BrokenThree one = seen(Due.stick("long 9;cuts 1", 0), 3, 3, 3);
+        BrokenThree one = Lay.seen(Lay.stick("long 9;cuts 1", 0), 3, 3, 3);
         Due.is("more pieces than cuts and 1", one.orders(0), 0);
-        one = seen(Due.stick("long 3;cuts 1", 0), 1, 1, 1);
+        one = Lay.seen(Lay.stick("long 3;cuts 1", 0), 1, 1, 1);
         Due.is("more pieces than cuts and 1, though nothing is left to break", one.orders(0), 0);
-        BrokenThree hard = seen(Due.stick("long 9;hard 1 x=3&c=0", 0), 3, 3, 3);
+        BrokenThree hard = Lay.seen(Lay.stick("long 9;hard 1 x=3&c=0", 0), 3, 3, 3);
         Due.is("first at 6", hard.orders(0), 1);
         Due.is("orders(1)", hard.orders(1), BrokenThree.NONE);
         Due.is("orders(-1)", hard.orders(-1), BrokenThree.NONE);
@@ -75,19 +67,19 @@ public final class RowPromisesTest {
 
     private static void ordersFewer() {
         Due.promise(24, "orders, if nothing can be broken any more");
-        BrokenThree s = Due.stick("long 9;cuts 3;hard 1 c>0", 0);
-        Due.is("4 5", seen(s, 4, 5).orders(0), 1);
-        Due.is("4 2 3", seen(s, 4, 2, 3).orders(0), 0);
-        Due.is("9", seen(s, 9).orders(0), 0);
-        s = Due.stick("long 9;hard 1 x>0", 0);
-        Due.is("9", seen(s, 9).orders(0), 1);
-        s = Due.stick("long 3;cuts 3", 0);
-        Due.is("1 1 1", seen(s, 1, 1, 1).orders(0), 2);
-        s = Due.stick("long 6;cuts 3");
+        BrokenThree s = Lay.stick("long 9;cuts 3;hard 1 c>0", 0);
+        Due.is("4 5", Lay.seen(s, 4, 5).orders(0), 1);
+        Due.is("4 2 3", Lay.seen(s, 4, 2, 3).orders(0), 0);
+        Due.is("9", Lay.seen(s, 9).orders(0), 0);
+        s = Lay.stick("long 9;hard 1 x>0", 0);
+        Due.is("9", Lay.seen(s, 9).orders(0), 1);
+        s = Lay.stick("long 3;cuts 3", 0);
+        Due.is("1 1 1", Lay.seen(s, 1, 1, 1).orders(0), 2);
+        s = Lay.stick("long 6;cuts 3");
         s.breaker(5, 3);
-        Due.is("2 2 2: at 2 or 4 first, the 4 left", seen(s, 2, 2, 2).orders(0), 2);
-        Due.is("3 3: neither is longer than 3", seen(s, 3, 3).orders(0), 1);
-        Due.is("2 4", seen(s, 2, 4).orders(0), 0);
+        Due.is("2 2 2: at 2 or 4 first, the 4 left", Lay.seen(s, 2, 2, 2).orders(0), 2);
+        Due.is("3 3: neither is longer than 3", Lay.seen(s, 3, 3).orders(0), 1);
+        Due.is("2 4", Lay.seen(s, 2, 4).orders(0), 0);
     }
 
     private static void chanceIs(BrokenThree s, int breaker, String want) {
@@ -96,17 +88,17 @@ public final class RowPromisesTest {
 
     private static void chance() {
         Due.promise(25, "chance");
-        BrokenThree s = seen(Due.stick("long 5", 0, 1, 3, 4), 2, 2, 1);
+        BrokenThree s = Lay.seen(Lay.stick("long 5", 0, 1, 3, 4), 2, 2, 1);
         chanceIs(s, 0, "1/6");
         // first at 2: at 4 is one of two; first at 4: at 2 one of three
         chanceIs(s, 1, "5/24");
         // first at 2: the left 2 is next; first at 4: one of three
         chanceIs(s, 2, "1/12");
         chanceIs(s, 3, "1/4");
-        chanceIs(seen(s, 2, 2), 0, "0/1");
-        chanceIs(seen(Due.stick("long 9;hard 1 x>0", 0), 9), 0, "1/1");
-        chanceIs(seen(Due.stick("long 9;cuts 3;hard 1 c>0", 0), 4, 5), 0, "1/8");
-        chanceIs(seen(Due.stick("long 17;cuts 3", 0), 1, 2, 3, 11), 0, "1/560");
+        chanceIs(Lay.seen(s, 2, 2), 0, "0/1");
+        chanceIs(Lay.seen(Lay.stick("long 9;hard 1 x>0", 0), 9), 0, "1/1");
+        chanceIs(Lay.seen(Lay.stick("long 9;cuts 3;hard 1 c>0", 0), 4, 5), 0, "1/8");
+        chanceIs(Lay.seen(Lay.stick("long 17;cuts 3", 0), 1, 2, 3, 11), 0, "1/560");
         Due.is("chance(4, 0)", s.chance(4, 0), BrokenThree.NO);
         Due.is("chance(-1, 0)", s.chance(-1, 0), BrokenThree.NO);
         Due.is("chance(0, 2)", s.chance(0, 2), BrokenThree.NO);
@@ -115,53 +107,53 @@ public final class RowPromisesTest {
 
     private static void lost() {
         Due.promise(26, "lost");
-        BrokenThree s = Due.stick("long 9;cuts 2", 0, 4);
-        Due.is("3 3, anywhere", seen(s, 3, 3).lost(0), 7);
+        BrokenThree s = Lay.stick("long 9;cuts 2", 0, 4);
+        Due.is("3 3, anywhere", Lay.seen(s, 3, 3).lost(0), 7);
         // 9 halves at 4 or 5, then the 5 at its 2 or 3
-        Due.is("4 3, a 2 not ahead of all", seen(s, 4, 3).lost(1), 6);
-        Due.is("2 4, a 3 ahead of the 4", seen(s, 2, 4).lost(1), 3);
-        Due.is("4 5: nothing lacks", seen(s, 4, 5).lost(0), 0);
-        Due.is("4 6: less than nothing", seen(s, 4, 6).lost(0), 0);
-        Due.is("4: but two pieces", seen(s, 4).lost(0), 0);
-        Due.is("1 2 3: too many then", seen(s, 1, 2, 3).lost(0), 0);
-        Due.is("nothing told: whole", seen(s).lost(0), 0);
+        Due.is("4 3, a 2 not ahead of all", Lay.seen(s, 4, 3).lost(1), 6);
+        Due.is("2 4, a 3 ahead of the 4", Lay.seen(s, 2, 4).lost(1), 3);
+        Due.is("4 5: nothing lacks", Lay.seen(s, 4, 5).lost(0), 0);
+        Due.is("4 6: less than nothing", Lay.seen(s, 4, 6).lost(0), 0);
+        Due.is("4: but two pieces", Lay.seen(s, 4).lost(0), 0);
+        Due.is("1 2 3: too many then", Lay.seen(s, 1, 2, 3).lost(0), 0);
+        Due.is("nothing told: whole", Lay.seen(s).lost(0), 0);
         Due.is("rows stay", s.count(3), 0);
-        BrokenThree hard = Due.stick("long 9;hard 1 x>0", 0);
-        Due.is("nothing told: whole", seen(hard).lost(0), 1);
-        BrokenThree once = Due.stick("long 9;cuts 3;hard 1 c>0", 0);
-        Due.is("4 5: nothing lacks, though no break is left", seen(once, 4, 5).lost(0), 0);
-        Due.is("8: a 1", seen(once, 8).lost(0), 3);
-        BrokenThree three = Due.stick("long 9;cuts 3", 0, 3);
-        Due.is("1 1 1, a 6", seen(three, 1, 1, 1).lost(0), 15);
-        Due.is("2 2 2, a 3, from the left", seen(three, 2, 2, 2).lost(1), 15);
-        Due.is("four, however short", seen(three, 1, 1, 1, 1).lost(0), 0);
+        BrokenThree hard = Lay.stick("long 9;hard 1 x>0", 0);
+        Due.is("nothing told: whole", Lay.seen(hard).lost(0), 1);
+        BrokenThree once = Lay.stick("long 9;cuts 3;hard 1 c>0", 0);
+        Due.is("4 5: nothing lacks, though no break is left", Lay.seen(once, 4, 5).lost(0), 0);
+        Due.is("8: a 1", Lay.seen(once, 8).lost(0), 3);
+        BrokenThree three = Lay.stick("long 9;cuts 3", 0, 3);
+        Due.is("1 1 1, a 6", Lay.seen(three, 1, 1, 1).lost(0), 15);
+        Due.is("2 2 2, a 3, from the left", Lay.seen(three, 2, 2, 2).lost(1), 15);
+        Due.is("four, however short", Lay.seen(three, 1, 1, 1, 1).lost(0), 0);
         Due.is("lost(2)", three.lost(2), BrokenThree.NONE);
         Due.is("lost(-1)", three.lost(-1), BrokenThree.NONE);
     }
 
     private static void who() {
         Due.promise(27, "who");
-        BrokenThree s = Due.stick("long 9;cuts 3", 2, 1, 4, 0, 3);
-        Due.is("2 3 2 2", seen(s, 2, 3, 2, 2).who(), 2 + 4 + 8 + 16);
-        Due.is("4 5", seen(s, 4, 5).who(), 0);
-        Due.is("nobody", seen(Due.stick("long 9;hard 1 x>0"), 9).who(), 0);
-        BrokenThree kinds = Due.stick("long 9;cuts 1;hard 1 k=1&x=3|k=3&x>3", 0, 1, 3, 3, 0, 0);
-        Due.is("3 6", seen(kinds, 3, 6).who(), 63 - 2);
-        Due.is("6 3", seen(kinds, 6, 3).who(), 63 - 12);
+        BrokenThree s = Lay.stick("long 9;cuts 3", 2, 1, 4, 0, 3);
+        Due.is("2 3 2 2", Lay.seen(s, 2, 3, 2, 2).who(), 2 + 4 + 8 + 16);
+        Due.is("4 5", Lay.seen(s, 4, 5).who(), 0);
+        Due.is("nobody", Lay.seen(Lay.stick("long 9;hard 1 x>0"), 9).who(), 0);
+        BrokenThree kinds = Lay.stick("long 9;cuts 1;hard 1 k=1&x=3|k=3&x>3", 0, 1, 3, 3, 0, 0);
+        Due.is("3 6", Lay.seen(kinds, 3, 6).who(), 63 - 2);
+        Due.is("6 3", Lay.seen(kinds, 6, 3).who(), 63 - 12);
     }
 
     private static void likeliest() {
         Due.promise(28, "likeliest");
-        BrokenThree s = Due.stick("long 5", 0, 1, 3, 4, 4);
-        Due.is("2 2 1", seen(s, 2, 2, 1).likeliest(), 3);
-        Due.is("3 1 1", seen(s, 3, 1, 1).likeliest(), 0);
-        Due.is("4 2", seen(s, 4, 2).likeliest(), -5);
-        Due.is("nobody", seen(Due.stick("long 5"), 2, 2, 1).likeliest(), -5);
+        BrokenThree s = Lay.stick("long 5", 0, 1, 3, 4, 4);
+        Due.is("2 2 1", Lay.seen(s, 2, 2, 1).likeliest(), 3);
+        Due.is("3 1 1", Lay.seen(s, 3, 1, 1).likeliest(), 0);
+        Due.is("4 2", Lay.seen(s, 4, 2).likeliest(), -5);
+        Due.is("nobody", Lay.seen(Lay.stick("long 5"), 2, 2, 1).likeliest(), -5);
         // few first ways against many
-        BrokenThree kinds = Due.stick("long 9;cuts 1;hard 1 k=0&x>7|k=1&x>5", 0, 1, 3, 1);
-        Due.is("3 6", seen(kinds, 3, 6).likeliest(), 1);
-        Due.is("6 3", seen(kinds, 6, 3).likeliest(), 0);
-        Due.is("8 1", seen(kinds, 8, 1).likeliest(), 2);
+        BrokenThree kinds = Lay.stick("long 9;cuts 1;hard 1 k=0&x>7|k=1&x>5", 0, 1, 3, 1);
+        Due.is("3 6", Lay.seen(kinds, 3, 6).likeliest(), 1);
+        Due.is("6 3", Lay.seen(kinds, 6, 3).likeliest(), 0);
+        Due.is("8 1", Lay.seen(kinds, 8, 1).likeliest(), 2);
     }
 
     private static void book() {

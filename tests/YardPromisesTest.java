@@ -20,19 +20,6 @@ public final class YardPromisesTest {
         Due.end("YardPromisesTest");
     }
 
-    /** The notches at which a breaker may break, as "1,2,3". */
-    private static String may(BrokenThree s, int breaker) {
-        StringBuilder all = new StringBuilder();
-        for (int k = 0; k < s.of(breaker, 2); k++) {
-            all.append(k > 0 ? "," : "").append(s.of(breaker, 10 + k));
-        }
-        return all.toString();
-    }
-
-    private static void mayIs(BrokenThree s, int breaker, String want) {
-        Due.holds("breaker " + breaker + " may " + may(s, breaker) + ", due " + want, may(s, breaker).equals(want));
-    }
-
     private static void newObject() {
         Due.promise(1, "a new object");
         BrokenThree s = new BrokenThree();
@@ -70,11 +57,11 @@ public final class YardPromisesTest {
         Due.promise(3, "yard");
         BrokenThree s = new BrokenThree();
         for (int i = 0; i < 5; i++) {
-            Due.is("yard()", Due.yard(s, "long " + (i + 2)), i);
+            Due.is("yard()", Lay.yard(s, "long " + (i + 2)), i);
             Due.is("signs", s.count(5), 0);
             Due.is("length", s.told(0), i + 2);
         }
-        Due.feed(s, "lo");
+        Lay.feed(s, "lo");
         Due.is("yard(), full, ahead of the fault", s.yard(), BrokenThree.FULL);
         Due.is("the tape stays", s.count(5), 2);
         Due.is("yards", s.count(1), 5);
@@ -83,7 +70,7 @@ public final class YardPromisesTest {
 
     private static void fault(String text, int place) {
         BrokenThree s = new BrokenThree();
-        Due.is("yard() of \"" + text + "\"", Due.yard(s, text), place < 0 ? 0 : -10 - place);
+        Due.is("yard() of \"" + text + "\"", Lay.yard(s, text), place < 0 ? 0 : -10 - place);
         Due.is("signs left of \"" + text + "\"", s.count(5), 0);
     }
 
@@ -166,30 +153,30 @@ public final class YardPromisesTest {
 
     private static void yardHolds() {
         Due.promise(3, "yard, which holds");
-        BrokenThree s = Due.stick("long 1;long 0", 0);
+        BrokenThree s = Lay.stick("long 1;long 0", 0);
         Due.is("length of long 0", s.told(0), 2);
-        Due.is("yard()", Due.yard(s, "long 3;long 99;cuts 9"), 1);
+        Due.is("yard()", Lay.yard(s, "long 3;long 99;cuts 9"), 1);
         Due.is("length of long 99", s.told(0), 17);
         Due.is("cuts of cuts 9", s.told(1), 3);
-        Due.is("yard()", Due.yard(s, "long 5;cuts 3;long 7;cuts 0;price 4 x=3"), 2);
+        Due.is("yard()", Lay.yard(s, "long 5;cuts 3;long 7;cuts 0;price 4 x=3"), 2);
         Due.is("length, the last", s.told(0), 7);
         Due.is("cuts, the last", s.told(1), 1);
         s.breaks(0, 2);
         Due.is("spent", s.told(3), 4);
-        Due.is("yard() with a fault", Due.yard(s, "long 9;"), -17);
+        Due.is("yard() with a fault", Lay.yard(s, "long 9;"), -17);
         Due.is("the one that held holds", s.told(0), 7);
         Due.is("pieces stay", s.told(2), 2);
         Due.is("yards", s.count(1), 3);
-        Due.is("yard()", Due.yard(s, "cuts 2"), 3);
+        Due.is("yard()", Lay.yard(s, "cuts 2"), 3);
         Due.is("length without long", s.told(0), 12);
         Due.is("the stick is whole", s.told(2), 1);
         Due.is("nothing is spent", s.told(3), 0);
         Due.is("piece(0)", s.piece(0), 12);
-        Due.yard(s, "long 5;hard 1 x>0;price 3 x>0");
-        BrokenThree other = Due.stick("long 5;hard 1 x>0;price 3 x>0", 0);
-        mayIs(other, 0, "");
-        Due.is("yard()", Due.yard(other, "long 4"), 1);
-        mayIs(other, 0, "1,2,3");
+        Lay.yard(s, "long 5;hard 1 x>0;price 3 x>0");
+        BrokenThree other = Lay.stick("long 5;hard 1 x>0;price 3 x>0", 0);
+        Lay.mayIs(other, 0, "");
+        Due.is("yard()", Lay.yard(other, "long 4"), 1);
+        Lay.mayIs(other, 0, "1,2,3");
         other.breaks(0, 0);
         Due.is("the older one's prices are gone", other.told(3), 0);
     }
@@ -212,7 +199,7 @@ public final class YardPromisesTest {
 
     private static void of() {
         Due.promise(5, "of");
-        BrokenThree s = Due.stick("long 6");
+        BrokenThree s = Lay.stick("long 6");
         s.breaker(2, 7);
         Due.is("of(0, 0)", s.of(0, 0), 2);
         Due.is("of(0, 1)", s.of(0, 1), 7);
@@ -229,86 +216,86 @@ public final class YardPromisesTest {
 
     private static void hardness() {
         Due.promise(5, "of, where it is too hard");
-        mayIs(Due.stick("long 7;hard 1 x=3", 0), 0, "1,2,4,5,6");
-        mayIs(Due.stick("long 7;hard 0 x=3", 0), 0, "1,2,3,4,5,6");
-        mayIs(Due.stick("long 7;hard 0 x<4;hard 2 x=3", 0), 0, "1,2,4,5,6");
-        mayIs(Due.stick("long 7;hard 1 r<2", 0), 0, "2,3,4,5");
-        mayIs(Due.stick("long 7;hard 1 r>2", 0), 0, "1,2,5,6");
-        mayIs(Due.stick("long 7;hard 1 !(x=2|x=4)", 0), 0, "2,4");
-        mayIs(Due.stick("long 7;hard 1 x>1&x<4|x=6", 0), 0, "1,4,5");
-        mayIs(Due.stick("long 7;hard 1 x=6|x>1&x<4", 0), 0, "1,4,5");
-        mayIs(Due.stick("long 7;hard 1 !x=6&!x=2", 0), 0, "2,6");
-        mayIs(Due.stick("long 7;hard 1 l=7", 0), 0, "");
-        mayIs(Due.stick("long 7;hard 1 l=8", 0), 0, "1,2,3,4,5,6");
-        mayIs(Due.stick("long 7;price 1 x=3", 0), 0, "1,2,3,4,5,6");
-        mayIs(Due.stick("long 7;hard 1 c<1", 0), 0, "");
-        mayIs(Due.stick("long 7;hard 1 c<0", 0), 0, "1,2,3,4,5,6");
-        mayIs(Due.stick("long 7;hard 1 c>0", 0), 0, "1,2,3,4,5,6");
-        mayIs(Due.stick("long 7;hard 1 k<1&x=1", 0, 1), 0, "2,3,4,5,6");
-        mayIs(Due.stick("long 7;hard 1 k<1&x=1", 0, 1), 1, "1,2,3,4,5,6");
-        mayIs(Due.stick("long 7;hard 1 l<8&x=1", 0), 0, "2,3,4,5,6");
-        mayIs(Due.stick("long 7;hard 1 l<7&x=1", 0), 0, "1,2,3,4,5,6");
-        mayIs(Due.stick("long 7;hard 1 x<10&x>0&x=1", 0), 0, "2,3,4,5,6");
-        BrokenThree s = Due.stick("long 7;hard 1 k=1&x=2;hard 1 c=1&x=5", 0, 1);
-        mayIs(s, 0, "1,2,3,4,5,6");
-        mayIs(s, 1, "1,3,4,5,6");
+        Lay.mayIs(Lay.stick("long 7;hard 1 x=3", 0), 0, "1,2,4,5,6");
+        Lay.mayIs(Lay.stick("long 7;hard 0 x=3", 0), 0, "1,2,3,4,5,6");
+        Lay.mayIs(Lay.stick("long 7;hard 0 x<4;hard 2 x=3", 0), 0, "1,2,4,5,6");
+        Lay.mayIs(Lay.stick("long 7;hard 1 r<2", 0), 0, "2,3,4,5");
+        Lay.mayIs(Lay.stick("long 7;hard 1 r>2", 0), 0, "1,2,5,6");
+        Lay.mayIs(Lay.stick("long 7;hard 1 !(x=2|x=4)", 0), 0, "2,4");
+        Lay.mayIs(Lay.stick("long 7;hard 1 x>1&x<4|x=6", 0), 0, "1,4,5");
+        Lay.mayIs(Lay.stick("long 7;hard 1 x=6|x>1&x<4", 0), 0, "1,4,5");
+        Lay.mayIs(Lay.stick("long 7;hard 1 !x=6&!x=2", 0), 0, "2,6");
+        Lay.mayIs(Lay.stick("long 7;hard 1 l=7", 0), 0, "");
+        Lay.mayIs(Lay.stick("long 7;hard 1 l=8", 0), 0, "1,2,3,4,5,6");
+        Lay.mayIs(Lay.stick("long 7;price 1 x=3", 0), 0, "1,2,3,4,5,6");
+        Lay.mayIs(Lay.stick("long 7;hard 1 c<1", 0), 0, "");
+        Lay.mayIs(Lay.stick("long 7;hard 1 c<0", 0), 0, "1,2,3,4,5,6");
+        Lay.mayIs(Lay.stick("long 7;hard 1 c>0", 0), 0, "1,2,3,4,5,6");
+        Lay.mayIs(Lay.stick("long 7;hard 1 k<1&x=1", 0, 1), 0, "2,3,4,5,6");
+        Lay.mayIs(Lay.stick("long 7;hard 1 k<1&x=1", 0, 1), 1, "1,2,3,4,5,6");
+        Lay.mayIs(Lay.stick("long 7;hard 1 l<8&x=1", 0), 0, "2,3,4,5,6");
+        Lay.mayIs(Lay.stick("long 7;hard 1 l<7&x=1", 0), 0, "1,2,3,4,5,6");
+        Lay.mayIs(Lay.stick("long 7;hard 1 x<10&x>0&x=1", 0), 0, "2,3,4,5,6");
+        BrokenThree s = Lay.stick("long 7;hard 1 k=1&x=2;hard 1 c=1&x=5", 0, 1);
+        Lay.mayIs(s, 0, "1,2,3,4,5,6");
+        Lay.mayIs(s, 1, "1,3,4,5,6");
         Due.is("breaks(0, 2)", s.breaks(0, 2), 3);
-        mayIs(s, 0, "1,2,4,6");
+        Lay.mayIs(s, 0, "1,2,4,6");
         Due.is("breaks(0, 2)", s.breaks(0, 2), 4);
-        mayIs(s, 0, "1,2,5,6");
+        Lay.mayIs(s, 0, "1,2,5,6");
     }
 
     private static void kinds() {
         Due.promise(5, "of, by kinds");
-        BrokenThree s = Due.stick("long 17", 0, 1, 2, 3, 4);
-        mayIs(s, 4, "8,9");
+        BrokenThree s = Lay.stick("long 17", 0, 1, 2, 3, 4);
+        Lay.mayIs(s, 4, "8,9");
         // 3 5 4 5
         s.breaks(0, 2);
         s.breaks(0, 6);
         s.breaks(0, 9);
         Due.is("pieces", s.piece(0) * 1000 + s.piece(1) * 100 + s.piece(2) * 10 + s.piece(3), 3545);
-        mayIs(s, 0, "1,2,4,5,6,7,9,10,11,13,14,15,16");
-        mayIs(s, 1, "4,5,6,7");
-        mayIs(s, 2, "1,2");
-        mayIs(s, 3, "1,2");
-        mayIs(s, 4, "5,6");
+        Lay.mayIs(s, 0, "1,2,4,5,6,7,9,10,11,13,14,15,16");
+        Lay.mayIs(s, 1, "4,5,6,7");
+        Lay.mayIs(s, 2, "1,2");
+        Lay.mayIs(s, 3, "1,2");
+        Lay.mayIs(s, 4, "5,6");
         s.breaker(5, 3);
-        mayIs(s, 5, "9,10,11");
+        Lay.mayIs(s, 5, "9,10,11");
 
-        BrokenThree thin = Due.stick("long 17", 0);
+        BrokenThree thin = Lay.stick("long 17", 0);
         thin.breaks(0, 2);
         thin.breaks(0, 6);
         thin.breaks(0, 9);
         thin.breaker(5, 0);
         thin.breaker(5, 4);
         thin.breaker(5, 5);
-        mayIs(thin, 1, "1,2");
-        mayIs(thin, 2, "4,5,6,7");
-        mayIs(thin, 3, "");
+        Lay.mayIs(thin, 1, "1,2");
+        Lay.mayIs(thin, 2, "4,5,6,7");
+        Lay.mayIs(thin, 3, "");
 
         // pieces that are hard all over are not open: the next one is taken
-        BrokenThree hard = Due.stick("long 12;hard 1 l=6;hard 1 l=2;hard 1 x=9", 0, 1, 2, 3, 4);
+        BrokenThree hard = Lay.stick("long 12;hard 1 l=6;hard 1 l=2;hard 1 x=9", 0, 1, 2, 3, 4);
         hard.breaks(0, 1);
         hard.breaks(0, 4);
         Due.is("pieces", hard.piece(0) * 100 + hard.piece(1) * 10 + hard.piece(2), 255);
-        mayIs(hard, 0, "3,4,5,6,8,10,11");
-        mayIs(hard, 1, "3,4,5,6");
-        mayIs(hard, 2, "3,4,5,6");
-        mayIs(hard, 3, "3,4,5,6");
+        Lay.mayIs(hard, 0, "3,4,5,6,8,10,11");
+        Lay.mayIs(hard, 1, "3,4,5,6");
+        Lay.mayIs(hard, 2, "3,4,5,6");
+        Lay.mayIs(hard, 3, "3,4,5,6");
         hard.breaks(3, 0);
         Due.is("pieces", hard.piece(1) * 100 + hard.piece(2) * 10 + hard.piece(3), 145);
-        mayIs(hard, 1, "8,10,11");
-        mayIs(hard, 4, "10");
-        mayIs(hard, 3, "4,5,6");
+        Lay.mayIs(hard, 1, "8,10,11");
+        Lay.mayIs(hard, 4, "10");
+        Lay.mayIs(hard, 3, "4,5,6");
         Due.promise(5, "of a halving one whose middle is hard");
-        mayIs(Due.stick("long 8;hard 1 k=4&r=4", 4), 0, "3,5");
-        mayIs(Due.stick("long 8;hard 1 k=4&(r=4|x=5)", 4), 0, "3");
-        mayIs(Due.stick("long 8;hard 1 k=1&r=4", 4), 0, "4");
+        Lay.mayIs(Lay.stick("long 8;hard 1 k=4&r=4", 4), 0, "3,5");
+        Lay.mayIs(Lay.stick("long 8;hard 1 k=4&(r=4|x=5)", 4), 0, "3");
+        Lay.mayIs(Lay.stick("long 8;hard 1 k=1&r=4", 4), 0, "4");
     }
 
     private static void row() {
         Due.promise(6, "row");
-        BrokenThree s = Due.stick("long 9", 0, 6);
+        BrokenThree s = Lay.stick("long 9", 0, 6);
         Due.is("row(1, 0, 3)", s.row(1, 0, 3), 0);
         Due.is("row(1, 0, 9)", s.row(1, 0, 9), 3);
         Due.is("row(1, 3, 1)", s.row(1, 3, 1), 0);
@@ -326,27 +313,27 @@ public final class YardPromisesTest {
         s.row(1, 1, 3);
         s.row(1, 2, 2);
         s.row(1, 3, 4);
-        mayIs(s, 1, "1,2,3,4,5,6,7,8");
+        Lay.mayIs(s, 1, "1,2,3,4,5,6,7,8");
         s.breaks(0, 2);
-        mayIs(s, 1, "4,5,6,7,8");
+        Lay.mayIs(s, 1, "4,5,6,7,8");
         s.row(1, 1, 4);
-        mayIs(s, 1, "1,2");
+        Lay.mayIs(s, 1, "1,2");
         s.breaks(0, 4);
         // 3 3 3, of which the one told is 2
-        mayIs(s, 1, "7,8");
+        Lay.mayIs(s, 1, "7,8");
         s.breaks(0, 0);
         // 1 2 3 3: three are open, 4 modulo 3 is the middle one
-        mayIs(s, 1, "4,5");
+        Lay.mayIs(s, 1, "4,5");
         s.breaks(0, 0);
         // 1 1 1 3 3: cuts 4, modulo 4 are 0
-        mayIs(s, 1, "4,5");
+        Lay.mayIs(s, 1, "4,5");
         s.row(1, 0, 1);
-        mayIs(s, 1, "7,8");
+        Lay.mayIs(s, 1, "7,8");
     }
 
     private static void told() {
         Due.promise(7, "told");
-        BrokenThree s = Due.stick("long 10;cuts 1;price 3 x>0;price 20 r>4;price 5 c=1;price 70 k=1;price 0 x>0", 0, 1);
+        BrokenThree s = Lay.stick("long 10;cuts 1;price 3 x>0;price 20 r>4;price 5 c=1;price 70 k=1;price 0 x>0", 0, 1);
         Due.is("told(0)", s.told(0), 10);
         Due.is("told(1)", s.told(1), 1);
         Due.is("told(2)", s.told(2), 1);
@@ -359,7 +346,7 @@ public final class YardPromisesTest {
         s.breaks(0, 0);
         Due.is("told(3), 3 more", s.told(3), 104);
         Due.is("told(2), more than cuts to be made", s.told(2), 4);
-        BrokenThree one = Due.stick("long 10;price 3 x=2&l=9;price 4 r=1", 0);
+        BrokenThree one = Lay.stick("long 10;price 3 x=2&l=9;price 4 r=1", 0);
         one.breaks(0, 0);
         one.breaks(0, 0);
         Due.is("told(3), 4, then 3 + 4", one.told(3), 11);
@@ -369,7 +356,7 @@ public final class YardPromisesTest {
 
     private static void piece() {
         Due.promise(8, "piece");
-        BrokenThree s = Due.stick("long 10", 0);
+        BrokenThree s = Lay.stick("long 10", 0);
         Due.is("piece(0)", s.piece(0), 10);
         s.breaks(0, 6);
         s.breaks(0, 1);
@@ -386,7 +373,7 @@ public final class YardPromisesTest {
 
     private static void breaks() {
         Due.promise(9, "breaks");
-        BrokenThree s = Due.stick("long 4", 0);
+        BrokenThree s = Lay.stick("long 4", 0);
         Due.is("breaks(1, 0)", s.breaks(1, 0), BrokenThree.NONE);
         Due.is("breaks(1, 100)", s.breaks(1, 100), BrokenThree.NONE);
         Due.is("breaks(0, 100)", s.breaks(0, 100), BrokenThree.BAD);
@@ -401,7 +388,7 @@ public final class YardPromisesTest {
 
     private static void whole() {
         Due.promise(10, "whole");
-        BrokenThree s = Due.stick("long 4;price 2 x>0", 0);
+        BrokenThree s = Lay.stick("long 4;price 2 x>0", 0);
         Due.is("whole()", s.whole(), 1);
         s.breaks(0, 0);
         s.breaks(0, 0);
@@ -428,14 +415,7 @@ public final class YardPromisesTest {
     }
 
     private static void shapes(String yard, int[] places, int... want) {
-        BrokenThree s = Due.stick(yard, 0);
-        for (int place : places) {
-            int k = 0;
-            while (s.of(0, 10 + k) != place) {
-                k++;
-            }
-            s.breaks(0, k);
-        }
+        BrokenThree s = Lay.broken(Lay.stick(yard, 0), 0, places);
         for (int what = 0; what < want.length; what++) {
             Due.is("shape(" + what + ") of " + java.util.Arrays.toString(places), s.shape(what), want[what]);
         }

@@ -1,10 +1,28 @@
 /** Counts the answers that are not due, and tells them. */
 final class Due {
+    private static final long MOST_MILLISECONDS = 300_000;
     private static int wrong = 0;
     private static int asked = 0;
-    private static String where = "";
+    private static volatile String where = "";
+
+    static {
+        // a call that does not end is a fault, too
+        Thread watch = new Thread(Due::haltLater);
+        watch.setDaemon(true);
+        watch.start();
+    }
 
     private Due() {
+    }
+
+    private static void haltLater() {
+        try {
+            Thread.sleep(MOST_MILLISECONDS);
+        } catch (InterruptedException e) {
+            return;
+        }
+        System.out.println(where + ": no end");
+        Runtime.getRuntime().halt(1);
     }
 
     static void promise(int number, String name) {
@@ -19,14 +37,17 @@ final class Due {
         }
     }
 
-    /** Both parts of a fraction, told as "above/below". */
-    static void fraction(String call, long above, long below, String want) {
+    static void text(String call, String got, String want) {
         asked++;
-        String got = above + "/" + below;
         if (!got.equals(want)) {
             wrong++;
             System.out.println(where + ": " + call + " answered " + got + ", due is " + want);
         }
+    }
+
+    /** Both parts of a fraction, told as "above/below". */
+    static void fraction(String call, long above, long below, String want) {
+        text(call, above + "/" + below, want);
     }
 
     static void holds(String what, boolean holds) {
@@ -37,28 +58,6 @@ final class Due {
         System.out.println(test + ": " + asked + " asked, " + wrong + " wrong");
         if (wrong != 0) {
             System.exit(1);
-        }
-    }
-
-    /** A new object with a yard and breakers of these kinds, v being 0. */
-    static BrokenThree stick(String yard, int... kinds) {
-        BrokenThree stick = new BrokenThree();
-        is("yard() of " + yard, yard(stick, yard), 0);
-        for (int kind : kinds) {
-            stick.breaker(kind, 0);
-        }
-        return stick;
-    }
-
-    /** A text onto the tape, and then yard(). */
-    static int yard(BrokenThree stick, String text) {
-        feed(stick, text);
-        return stick.yard();
-    }
-
-    static void feed(BrokenThree stick, String text) {
-        for (int i = 0; i < text.length(); i++) {
-            stick.feed(text.charAt(i));
         }
     }
 }
