@@ -248,13 +248,13 @@ public final class ActEdgesTest {
         }
         s.breaks(0, 1);
         for (int i = 0; i < 10; i++) {
-            s.box(9);
+            s.box(i < 5 ? 9 : 20);
         }
-        for (int i = 0; i < 4; i++) {
-            s.see(9);
+        for (int i = 1; i <= 4; i++) {
+            s.see(i < 4 ? 2 : 1);
         }
         for (int i = 0; i < 8; i++) {
-            s.book(9, 9, 9, false);
+            s.book(9, 9, 9 + i * 2, i < 4);
         }
         Lay.feed(s, "hard 5 x=1&");
     }
@@ -264,9 +264,13 @@ public final class ActEdgesTest {
         BrokenThree s = new BrokenThree();
         full(s);
         Due.is("image()", s.image(), 6);
+        Lay.seen(s, 5, 5, 5, 5);
         s.box(-1);
-        s.see(-1);
         s.book(-1, 0, 0, true);
+        for (int i = 0; i < 10; i++) {
+            s.box(7);
+            s.book(1, 2, 3, i < 2);
+        }
         s.feed('x');
         s.whole();
         for (int b = 0; b < 6; b++) {
@@ -278,8 +282,12 @@ public final class ActEdgesTest {
         for (int what = 0; what < due.length; what++) {
             Due.is("count(" + what + ")", s.count(what), due[what]);
         }
-        Due.is("triangles()", s.triangles(), 120);
-        Due.is("looked()", s.looked(), 0);
+        // 9 9 20 alone do not close
+        Due.is("triangles()", s.triangles(), 120 - 10 * 5);
+        Due.is("none(1)", s.none(1), 1 + 2 + 32);
+        // 9 9 17 closes, and is the fifth
+        Due.is("looked()", s.looked(), 4);
+        Due.is("orders(2) of 2 2 2 1, halving at 4, 2, 6", s.orders(2), 1);
         Due.text("pieces", Lay.pieces(s), "3,4");
         Due.is("told(3)", s.told(3), 9);
         Due.is("told(1)", s.told(1), 3);

@@ -365,6 +365,11 @@ public final class BreakEdgesTest {
         Lay.mayIs(Lay.stick("long 6;hard 1 x<0", 0), 0, "1,2,3,4,5");
         Lay.mayIs(Lay.stick("long 6;hard 1 x=0", 0), 0, "1,2,3,4,5");
         Lay.mayIs(Lay.stick("long 6;hard 1 x>0", 0), 0, "");
+        Lay.mayIs(Lay.stick("long 6;hard 1 x<0|x=1", 0), 0, "2,3,4,5");
+        Lay.mayIs(Lay.stick("long 6;hard 1 x=1|x<0", 0), 0, "2,3,4,5");
+        Lay.mayIs(Lay.stick("long 6;hard 1 x=1;hard 1 x<0", 0), 0, "2,3,4,5");
+        Lay.mayIs(Lay.stick("long 6;hard 1 !x<0", 0), 0, "");
+        Lay.mayIs(Lay.stick("long 6;hard 1 !x<0&x>2", 0), 0, "1,2");
         Lay.mayIs(Lay.stick("long 17;hard 1 x<10", 0), 0, "10,11,12,13,14,15,16");
         Lay.mayIs(Lay.stick("long 17;hard 1 x>10", 0), 0, "1,2,3,4,5,6,7,8,9,10");
         Lay.mayIs(Lay.stick("long 17;hard 1 !x=16", 0), 0, "16");
@@ -474,6 +479,11 @@ public final class BreakEdgesTest {
         Lay.mayIs(Lay.broken(Lay.stick("long 10", 1, 0), 1, 2, 6), 0, "3,4,5");
         Lay.mayIs(Lay.broken(Lay.stick("long 10", 1, 0), 1, 4, 6), 0, "1,2,3");
         Lay.mayIs(Lay.broken(Lay.stick("long 3", 1, 0), 1, 1), 0, "2");
+        // what was asked of longer pieces before is no matter
+        BrokenThree s = Lay.broken(Lay.stick("long 17", 1, 0), 1, 2);
+        Lay.mayIs(s, 0, "3,4,5,6,7,8,9,10,11,12,13,14,15,16");
+        Due.is("yard()", Lay.yard(s, "long 5"), 1);
+        Lay.mayIs(s, 0, "1,2,3,4");
     }
 
     private static void shortest() {
@@ -485,6 +495,11 @@ public final class BreakEdgesTest {
         // a piece of one has no notch
         Lay.mayIs(Lay.broken(Lay.stick("long 8", 2, 0), 1, 1, 4), 0, "2,3");
         Lay.mayIs(Lay.broken(Lay.stick("long 8", 2, 0), 1, 1, 3), 0, "2");
+        // what was asked of shorter pieces before is no matter
+        BrokenThree s = Lay.broken(Lay.stick("long 9", 2, 0), 1, 7);
+        Lay.mayIs(s, 0, "8");
+        s.whole();
+        Lay.mayIs(s, 0, "1,2,3,4,5,6,7,8");
     }
 
     private static void left() {

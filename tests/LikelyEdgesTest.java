@@ -10,6 +10,7 @@ public final class LikelyEdgesTest {
         atTheNumber();
         onePieceLeft();
         fewerPieces();
+        askedAgain();
         fourPieces();
         cutsToMake();
         wholeStickAlone();
@@ -156,6 +157,20 @@ public final class LikelyEdgesTest {
         likelyIs(Lay.stick("long 7;cuts 3;hard 1 c>1", 0), 0, 0, 0, "2/5");
     }
 
+    private static void askedAgain() {
+        Due.promise(12, "what was asked before is no matter");
+        BrokenThree s = Lay.stick("long 5");
+        s.breaker(5, 3);
+        for (int i = 0; i < 2; i++) {
+            // 1|4 and 4|1 are broken on, and two are alike then; 2|3 and 3|2 are not
+            likelyIs(s, 0, 5, 0, "1/2");
+            likelyIs(s, 0, 0, 0, "1/6");
+            likelyIs(s, 0, 6, 3, "5/6");
+            likelyIs(s, 0, 4, 2, "1/2");
+            meanIs(s, 0, 2, "4/3");
+        }
+    }
+
     private static void fourPieces() {
         Due.promise(12, "there are 3 (SQUARE, BLUNT), 3 or more (CLOSE)");
         BrokenThree s = Lay.stick("long 16;cuts 3", 0);
@@ -227,6 +242,9 @@ public final class LikelyEdgesTest {
                 lowest(s.mean(breaker, k, 0), s.mean(breaker, k, 1));
             }
         }
+        // as many ways three times over: 1 1 1 14 comes in six orders
+        likelyIs(Lay.stick("long 17;cuts 3;hard 1 c=0&x>13|c=1&x>14|c=2&x>15", 0), 0, 3, 14, "6/2197");
+        likelyIs(Lay.stick("long 17;cuts 3;hard 1 c=0&x>11|c=1&x>12|c=2&x>13", 0), 0, 3, 14, "6/1331");
         // nothing of it is 0 of 1, all of it 1 of 1
         likelyIs(s, 0, 3, 15, "0/1");
         likelyIs(s, 0, 3, 5, "1/1");

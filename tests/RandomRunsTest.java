@@ -155,7 +155,9 @@ public final class RandomRunsTest {
                 same("feed(" + sign + ")", stick.feed(sign), model.feed(sign));
             }
             text = "";
-            same("yard()", stick.yard(), model.yard());
+            if (made < 512) {
+                same("yard()", stick.yard(), model.yard());
+            }
             return;
         }
         int kind = random.nextInt(100);

