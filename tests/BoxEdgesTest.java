@@ -119,10 +119,6 @@ public final class BoxEdgesTest {
         Due.is("of ten alike", Lay.box(99, 99, 99, 99, 99, 99, 99, 99, 99, 99).triangles(), 120);
     }
 
-    private static void drawnIs(BrokenThree s, String want) {
-        Due.fraction("drawn(..)", s.drawn(0), s.drawn(1), want);
-    }
-
     private static void drawnOfFew() {
         Due.promise(19, "NO: fewer than 3");
         for (BrokenThree s : new BrokenThree[] {Lay.box(), Lay.box(9), Lay.box(9, 9)}) {
@@ -130,8 +126,8 @@ public final class BoxEdgesTest {
                 Due.is("drawn(" + part + ") of " + s.count(2), s.drawn(part), BrokenThree.NO);
             }
         }
-        drawnIs(Lay.box(9, 9, 9), "1/1");
-        drawnIs(Lay.box(9, 9, 18), "0/1");
+        Fractions.drawnIs(Lay.box(9, 9, 9), "1/1");
+        Fractions.drawnIs(Lay.box(9, 9, 18), "0/1");
         Due.promise(19, "NO: part");
         for (int part : new int[] {-1, 2, MIN, MAX}) {
             Due.is("drawn(" + part + ")", Lay.box(9, 9, 9).drawn(part), BrokenThree.NO);
@@ -140,11 +136,11 @@ public final class BoxEdgesTest {
 
     private static void drawnInLowestTerms() {
         Due.promise(19, "how likely three drawn of it CLOSE, in lowest terms");
-        drawnIs(Lay.box(3, 3, 3, 9), "1/4");
-        drawnIs(Lay.box(1, 1, 2, 2), "1/2");
-        drawnIs(Lay.box(1, 2, 3, 4, 5, 6, 7, 8, 9, 10), "5/12");
-        drawnIs(Lay.box(7, 7, 7, 7, 7, 7, 7, 7, 7, 7), "1/1");
-        drawnIs(Lay.box(1, 2, 3, 5, 8, 13, 21, 34, 55, 89), "0/1");
+        Fractions.drawnIs(Lay.box(3, 3, 3, 9), "1/4");
+        Fractions.drawnIs(Lay.box(1, 1, 2, 2), "1/2");
+        Fractions.drawnIs(Lay.box(1, 2, 3, 4, 5, 6, 7, 8, 9, 10), "5/12");
+        Fractions.drawnIs(Lay.box(7, 7, 7, 7, 7, 7, 7, 7, 7, 7), "1/1");
+        Fractions.drawnIs(Lay.box(1, 2, 3, 5, 8, 13, 21, 34, 55, 89), "0/1");
     }
 
     private static void noneIs(int[] box, int many, int bits) {

@@ -43,16 +43,12 @@ public final class BoxPromisesTest {
         Due.is("of 3, the box emptied before", s.triangles(), 0);
     }
 
-    private static void drawnIs(BrokenThree s, String want) {
-        Due.fraction("drawn(..)", s.drawn(0), s.drawn(1), want);
-    }
-
     private static void drawn() {
         Due.promise(19, "drawn");
-        drawnIs(Lay.box(4, 1, 3, 2, 5), "3/10");
-        drawnIs(Lay.box(3, 4, 5), "1/1");
-        drawnIs(Lay.box(1, 2, 3), "0/1");
-        drawnIs(Lay.box(2, 2, 2, 9), "1/4");
+        Fractions.drawnIs(Lay.box(4, 1, 3, 2, 5), "3/10");
+        Fractions.drawnIs(Lay.box(3, 4, 5), "1/1");
+        Fractions.drawnIs(Lay.box(1, 2, 3), "0/1");
+        Fractions.drawnIs(Lay.box(2, 2, 2, 9), "1/4");
         Due.is("drawn(0) of two", Lay.box(2, 2).drawn(0), BrokenThree.NO);
         Due.is("drawn(1) of none", Lay.box().drawn(1), BrokenThree.NO);
         Due.is("drawn(2)", Lay.box(3, 4, 5).drawn(2), BrokenThree.NO);

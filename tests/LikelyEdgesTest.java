@@ -32,19 +32,6 @@ public final class LikelyEdgesTest {
         Due.end("LikelyEdgesTest");
     }
 
-    private static void likelyIs(BrokenThree s, int breaker, int what, int n, String want) {
-        Due.fraction("likely(" + breaker + ", " + what + ", " + n + ", ..)",
-                s.likely(breaker, what, n, 0), s.likely(breaker, what, n, 1), want);
-    }
-
-    private static void meanIs(BrokenThree s, int breaker, int k, String want) {
-        Due.fraction("mean(" + breaker + ", " + k + ", ..)", s.mean(breaker, k, 0), s.mean(breaker, k, 1), want);
-    }
-
-    private static void costsAre(BrokenThree s, int breaker, String want) {
-        Due.fraction("costs(" + breaker + ", ..)", s.costs(breaker, 0), s.costs(breaker, 1), want);
-    }
-
     private static void numbersTaken() {
         Due.promise(12, "NO: breaker, what, n (0 .. 99), part");
         BrokenThree s = Lay.stick("long 5", 0, 1);
@@ -75,12 +62,12 @@ public final class LikelyEdgesTest {
         Due.promise(12, "what 0, 1, 2, 5: n is no matter");
         BrokenThree s = Lay.stick("long 12", 0);
         for (int n : new int[] {0, 1, 3, 99}) {
-            likelyIs(s, 0, 0, n, "2/11");
-            likelyIs(s, 0, 1, n, "6/55");
-            likelyIs(s, 0, 2, n, "0/1");
-            likelyIs(s, 0, 5, n, "42/55");
+            Fractions.likelyIs(s, 0, 0, n, "2/11");
+            Fractions.likelyIs(s, 0, 1, n, "6/55");
+            Fractions.likelyIs(s, 0, 2, n, "0/1");
+            Fractions.likelyIs(s, 0, 5, n, "42/55");
         }
-        likelyIs(Lay.stick("long 9", 0), 0, 2, 99, "3/14");
+        Fractions.likelyIs(Lay.stick("long 9", 0), 0, 2, 99, "3/14");
     }
 
     private static void atTheNumber() {
@@ -91,70 +78,70 @@ public final class LikelyEdgesTest {
         Due.promise(12, "what 3: the longest, 4: the shortest is n or more, 6: one of them or more is n");
         String[] one = {"0/1", "9/10", "7/10", "3/5", "3/10", "0/1", "0/1"};
         for (int n = 0; n <= 6; n++) {
-            likelyIs(s, 0, 3, n, longest[n]);
-            likelyIs(s, 0, 4, n, shortest[n]);
-            likelyIs(s, 0, 6, n, one[n]);
+            Fractions.likelyIs(s, 0, 3, n, longest[n]);
+            Fractions.likelyIs(s, 0, 4, n, shortest[n]);
+            Fractions.likelyIs(s, 0, 6, n, one[n]);
         }
         for (int what : new int[] {3, 4, 6}) {
-            likelyIs(s, 0, what, 99, "0/1");
+            Fractions.likelyIs(s, 0, what, 99, "0/1");
         }
         Due.promise(12, "what 0: they CLOSE, which 1 2 3 do not");
-        likelyIs(s, 0, 0, 0, "1/10");
+        Fractions.likelyIs(s, 0, 0, 0, "1/10");
         Due.promise(12, "what 5: no two are alike");
-        likelyIs(s, 0, 5, 0, "3/5");
+        Fractions.likelyIs(s, 0, 5, 0, "3/5");
         Due.promise(12, "what 2: they are BLUNT, which 2 2 3 is not; what 1: SQUARE");
         // 2 2 3 (3 of 15): 4 and 4 are less than 9; 1 3 3: 1 and 9 are more
         s = Lay.stick("long 7", 0);
-        likelyIs(s, 0, 2, 0, "1/5");
-        likelyIs(s, 0, 1, 0, "0/1");
-        likelyIs(s, 0, 0, 0, "2/5");
+        Fractions.likelyIs(s, 0, 2, 0, "1/5");
+        Fractions.likelyIs(s, 0, 1, 0, "0/1");
+        Fractions.likelyIs(s, 0, 0, 0, "2/5");
     }
 
     private static void onePieceLeft() {
         Due.promise(12, "fewer, if nothing can be broken any more: none at all");
         BrokenThree s = Lay.stick("long 9;cuts 3;hard 1 x>0;price 5 x>0", 0, 1, 2, 3, 4, 5);
         for (int breaker = 0; breaker <= 5; breaker++) {
-            likelyIs(s, breaker, 0, 0, "0/1");
-            likelyIs(s, breaker, 1, 0, "0/1");
-            likelyIs(s, breaker, 2, 0, "0/1");
-            likelyIs(s, breaker, 3, 9, "1/1");
-            likelyIs(s, breaker, 3, 10, "0/1");
-            likelyIs(s, breaker, 4, 9, "1/1");
-            likelyIs(s, breaker, 4, 10, "0/1");
-            likelyIs(s, breaker, 5, 0, "1/1");
-            likelyIs(s, breaker, 6, 9, "1/1");
-            likelyIs(s, breaker, 6, 8, "0/1");
-            meanIs(s, breaker, 0, "9/1");
-            meanIs(s, breaker, 1, "0/1");
-            costsAre(s, breaker, "0/1");
+            Fractions.likelyIs(s, breaker, 0, 0, "0/1");
+            Fractions.likelyIs(s, breaker, 1, 0, "0/1");
+            Fractions.likelyIs(s, breaker, 2, 0, "0/1");
+            Fractions.likelyIs(s, breaker, 3, 9, "1/1");
+            Fractions.likelyIs(s, breaker, 3, 10, "0/1");
+            Fractions.likelyIs(s, breaker, 4, 9, "1/1");
+            Fractions.likelyIs(s, breaker, 4, 10, "0/1");
+            Fractions.likelyIs(s, breaker, 5, 0, "1/1");
+            Fractions.likelyIs(s, breaker, 6, 9, "1/1");
+            Fractions.likelyIs(s, breaker, 6, 8, "0/1");
+            Fractions.meanIs(s, breaker, 0, "9/1");
+            Fractions.meanIs(s, breaker, 1, "0/1");
+            Fractions.costsAre(s, breaker, "0/1");
         }
         BrokenThree thin = Lay.stick("long 9;cuts 3");
         thin.breaker(5, 9);
-        likelyIs(thin, 0, 4, 9, "1/1");
+        Fractions.likelyIs(thin, 0, 4, 9, "1/1");
         thin.breaker(5, 8);
-        likelyIs(thin, 1, 4, 9, "0/1");
+        Fractions.likelyIs(thin, 1, 4, 9, "0/1");
     }
 
     private static void fewerPieces() {
         Due.promise(12, "fewer, if nothing can be broken any more: two are never CLOSE");
         BrokenThree s = Lay.stick("long 2;cuts 3", 0, 1, 2, 3, 4, 5);
         for (int breaker = 0; breaker <= 5; breaker++) {
-            likelyIs(s, breaker, 0, 0, "0/1");
-            likelyIs(s, breaker, 3, 1, "1/1");
-            likelyIs(s, breaker, 3, 2, "0/1");
-            likelyIs(s, breaker, 5, 0, "0/1");
-            meanIs(s, breaker, 1, "1/1");
-            meanIs(s, breaker, 2, "0/1");
+            Fractions.likelyIs(s, breaker, 0, 0, "0/1");
+            Fractions.likelyIs(s, breaker, 3, 1, "1/1");
+            Fractions.likelyIs(s, breaker, 3, 2, "0/1");
+            Fractions.likelyIs(s, breaker, 5, 0, "0/1");
+            Fractions.meanIs(s, breaker, 1, "1/1");
+            Fractions.meanIs(s, breaker, 2, "0/1");
         }
         s = Lay.stick("long 3;cuts 3", 0, 1, 2, 3, 4, 5);
         for (int breaker = 0; breaker <= 5; breaker++) {
-            likelyIs(s, breaker, 0, 0, "1/1");
-            meanIs(s, breaker, 2, "1/1");
-            meanIs(s, breaker, 3, "0/1");
+            Fractions.likelyIs(s, breaker, 0, 0, "1/1");
+            Fractions.meanIs(s, breaker, 2, "1/1");
+            Fractions.meanIs(s, breaker, 3, "0/1");
         }
-        likelyIs(Lay.stick("long 7;cuts 3;hard 1 c>0", 0), 0, 0, 0, "0/1");
-        likelyIs(Lay.stick("long 7;cuts 3;hard 1 c>0", 0), 0, 5, 0, "1/1");
-        likelyIs(Lay.stick("long 7;cuts 3;hard 1 c>1", 0), 0, 0, 0, "2/5");
+        Fractions.likelyIs(Lay.stick("long 7;cuts 3;hard 1 c>0", 0), 0, 0, 0, "0/1");
+        Fractions.likelyIs(Lay.stick("long 7;cuts 3;hard 1 c>0", 0), 0, 5, 0, "1/1");
+        Fractions.likelyIs(Lay.stick("long 7;cuts 3;hard 1 c>1", 0), 0, 0, 0, "2/5");
     }
 
     private static void askedAgain() {
@@ -163,24 +150,24 @@ public final class LikelyEdgesTest {
         s.breaker(5, 3);
         for (int i = 0; i < 2; i++) {
             // 1|4 and 4|1 are broken on, and two are alike then; 2|3 and 3|2 are not
-            likelyIs(s, 0, 5, 0, "1/2");
-            likelyIs(s, 0, 0, 0, "1/6");
-            likelyIs(s, 0, 6, 3, "5/6");
-            likelyIs(s, 0, 4, 2, "1/2");
-            meanIs(s, 0, 2, "4/3");
+            Fractions.likelyIs(s, 0, 5, 0, "1/2");
+            Fractions.likelyIs(s, 0, 0, 0, "1/6");
+            Fractions.likelyIs(s, 0, 6, 3, "5/6");
+            Fractions.likelyIs(s, 0, 4, 2, "1/2");
+            Fractions.meanIs(s, 0, 2, "4/3");
         }
     }
 
     private static void fourPieces() {
         Due.promise(12, "there are 3 (SQUARE, BLUNT), 3 or more (CLOSE)");
         BrokenThree s = Lay.stick("long 16;cuts 3", 0);
-        likelyIs(s, 0, 1, 0, "0/1");
-        likelyIs(s, 0, 2, 0, "0/1");
+        Fractions.likelyIs(s, 0, 1, 0, "0/1");
+        Fractions.likelyIs(s, 0, 2, 0, "0/1");
         // of 455 those with a longest of 8 or more, 4 by 56, do not close
-        likelyIs(s, 0, 0, 0, "33/65");
+        Fractions.likelyIs(s, 0, 0, 0, "33/65");
         BrokenThree one = Lay.stick("long 12;cuts 1", 0);
-        likelyIs(one, 0, 0, 0, "0/1");
-        likelyIs(one, 0, 5, 0, "10/11");
+        Fractions.likelyIs(one, 0, 0, 0, "0/1");
+        Fractions.likelyIs(one, 0, 5, 0, "10/11");
     }
 
     private static void cutsToMake() {
@@ -189,7 +176,7 @@ public final class LikelyEdgesTest {
         String[] shortest = {"36/11", "94/55", "67/55"};
         for (int cuts = 1; cuts <= 3; cuts++) {
             BrokenThree s = Lay.stick("cuts " + cuts, 0);
-            meanIs(s, 0, 0, shortest[cuts - 1]);
+            Fractions.meanIs(s, 0, 0, shortest[cuts - 1]);
             for (int k = 0; k <= 3; k++) {
                 Due.is("mean(0, " + k + ", 0) of cuts " + cuts + " is above 0", s.mean(0, k, 0) > 0 ? 1 : 0, k <= cuts ? 1 : 0);
             }
@@ -201,10 +188,10 @@ public final class LikelyEdgesTest {
         BrokenThree s = Lay.stick("long 9;price 3 c=0;cuts 2", 0, 4);
         String before = s.likely(1, 2, 0, 0) + "/" + s.likely(1, 2, 0, 1);
         Lay.broken(s, 0, 1, 2, 3, 4, 5, 6, 7, 8);
-        likelyIs(s, 0, 2, 0, "3/14");
-        likelyIs(s, 1, 2, 0, before);
-        meanIs(s, 0, 0, "39/28");
-        costsAre(s, 0, "3/1");
+        Fractions.likelyIs(s, 0, 2, 0, "3/14");
+        Fractions.likelyIs(s, 1, 2, 0, before);
+        Fractions.meanIs(s, 0, 0, "39/28");
+        Fractions.costsAre(s, 0, "3/1");
         Due.text("pieces", Lay.pieces(s), "1,1,1,1,1,1,1,1,1");
         Due.is("told(3)", s.told(3), 3);
     }
@@ -213,22 +200,22 @@ public final class LikelyEdgesTest {
         Due.promise(12, "by a TOLD one, as its row is now");
         // 1|4 or 2|3: of the 4 two of three ways leave a 3; the 2 leaves the 3, and the 3 none
         BrokenThree s = Lay.stick("long 5;hard 1 c=0&x>2", 6);
-        likelyIs(s, 0, 6, 3, "5/6");
+        Fractions.likelyIs(s, 0, 6, 3, "5/6");
         s.row(0, 0, 9);
-        likelyIs(s, 0, 6, 3, "5/6");
+        Fractions.likelyIs(s, 0, 6, 3, "5/6");
         s.row(0, 1, 1);
-        likelyIs(s, 0, 6, 3, "1/3");
+        Fractions.likelyIs(s, 0, 6, 3, "1/3");
         s.row(0, 1, 2);
-        likelyIs(s, 0, 6, 3, "5/6");
+        Fractions.likelyIs(s, 0, 6, 3, "5/6");
         BrokenThree six = Lay.stick("long 7;hard 1 c=0&x<4|c=0&x>4", 6);
         // 4 3: the 4 is broken at 1, 2, 3; or the 3 at 5, 6
-        meanIs(six, 0, 0, "4/3");
+        Fractions.meanIs(six, 0, 0, "4/3");
         six.row(0, 1, 9);
-        meanIs(six, 0, 0, "1/1");
+        Fractions.meanIs(six, 0, 0, "1/1");
         six.row(0, 1, 8);
-        meanIs(six, 0, 0, "4/3");
+        Fractions.meanIs(six, 0, 0, "4/3");
         six.row(0, 2, 9);
-        meanIs(six, 0, 0, "4/3");
+        Fractions.meanIs(six, 0, 0, "4/3");
     }
 
     private static void lowestTerms() {
@@ -243,11 +230,11 @@ public final class LikelyEdgesTest {
             }
         }
         // as many ways three times over: 1 1 1 14 comes in six orders
-        likelyIs(Lay.stick("long 17;cuts 3;hard 1 c=0&x>13|c=1&x>14|c=2&x>15", 0), 0, 3, 14, "6/2197");
-        likelyIs(Lay.stick("long 17;cuts 3;hard 1 c=0&x>11|c=1&x>12|c=2&x>13", 0), 0, 3, 14, "6/1331");
+        Fractions.likelyIs(Lay.stick("long 17;cuts 3;hard 1 c=0&x>13|c=1&x>14|c=2&x>15", 0), 0, 3, 14, "6/2197");
+        Fractions.likelyIs(Lay.stick("long 17;cuts 3;hard 1 c=0&x>11|c=1&x>12|c=2&x>13", 0), 0, 3, 14, "6/1331");
         // nothing of it is 0 of 1, all of it 1 of 1
-        likelyIs(s, 0, 3, 15, "0/1");
-        likelyIs(s, 0, 3, 5, "1/1");
+        Fractions.likelyIs(s, 0, 3, 15, "0/1");
+        Fractions.likelyIs(s, 0, 3, 5, "1/1");
     }
 
     private static void lowest(long above, long below) {
@@ -281,17 +268,17 @@ public final class LikelyEdgesTest {
 
     private static void meanOfFewer() {
         Due.promise(13, "0, if there are fewer");
-        meanIs(Lay.stick("long 9;cuts 1", 0), 0, 1, "13/2");
-        meanIs(Lay.stick("long 9;cuts 1", 0), 0, 2, "0/1");
-        meanIs(Lay.stick("long 9;cuts 1", 0), 0, 3, "0/1");
-        meanIs(Lay.stick("long 9;cuts 2", 0), 0, 3, "0/1");
+        Fractions.meanIs(Lay.stick("long 9;cuts 1", 0), 0, 1, "13/2");
+        Fractions.meanIs(Lay.stick("long 9;cuts 1", 0), 0, 2, "0/1");
+        Fractions.meanIs(Lay.stick("long 9;cuts 1", 0), 0, 3, "0/1");
+        Fractions.meanIs(Lay.stick("long 9;cuts 2", 0), 0, 3, "0/1");
         // 1|4 and 4|1 are broken on, 2|3 and 3|2 are not
         BrokenThree s = Lay.stick("long 5");
         s.breaker(5, 3);
-        meanIs(s, 0, 0, "3/2");
-        meanIs(s, 0, 1, "13/6");
-        meanIs(s, 0, 2, "4/3");
-        meanIs(s, 0, 3, "0/1");
+        Fractions.meanIs(s, 0, 0, "3/2");
+        Fractions.meanIs(s, 0, 1, "13/6");
+        Fractions.meanIs(s, 0, 2, "4/3");
+        Fractions.meanIs(s, 0, 3, "0/1");
     }
 
     private static void meansTogether() {
@@ -319,55 +306,51 @@ public final class LikelyEdgesTest {
             Due.is("costs(1, " + wrong + ")", s.costs(1, wrong), NO);
         }
         Due.promise(14, "no price, and a price of 0");
-        costsAre(Lay.stick("long 5", 0), 0, "0/1");
-        costsAre(Lay.stick("long 5;price 0 x>0", 0), 0, "0/1");
-        costsAre(Lay.stick("long 5;price 9 x>4", 0), 0, "0/1");
-        costsAre(Lay.stick("long 5;hard 9 x>4", 0), 0, "0/1");
-        costsAre(Lay.stick("long 5;hard 9 x>1;cuts 1", 0), 0, "0/1");
+        Fractions.costsAre(Lay.stick("long 5", 0), 0, "0/1");
+        Fractions.costsAre(Lay.stick("long 5;price 0 x>0", 0), 0, "0/1");
+        Fractions.costsAre(Lay.stick("long 5;price 9 x>4", 0), 0, "0/1");
+        Fractions.costsAre(Lay.stick("long 5;hard 9 x>4", 0), 0, "0/1");
+        Fractions.costsAre(Lay.stick("long 5;hard 9 x>1;cuts 1", 0), 0, "0/1");
         BrokenThree noYard = new BrokenThree();
         noYard.breaker(0, 0);
-        costsAre(noYard, 0, "0/1");
+        Fractions.costsAre(noYard, 0, "0/1");
     }
 
     private static void costsAheadOfIt() {
         Due.promise(14, "the n of all price whose E holds, ahead of it; all BREAKS together");
-        costsAre(Lay.stick("long 5;cuts 1;price 1 c=0", 0), 0, "1/1");
-        costsAre(Lay.stick("long 5;cuts 1;price 1 c=1", 0), 0, "0/1");
-        costsAre(Lay.stick("long 5;cuts 2;price 1 c=1", 0), 0, "1/1");
-        costsAre(Lay.stick("long 5;cuts 2;price 1 c=2", 0), 0, "0/1");
-        costsAre(Lay.stick("long 5;cuts 3;price 1 c=2;price 2 c=2", 0), 0, "3/1");
-        costsAre(Lay.stick("long 5;cuts 3;price 1 c=3", 0), 0, "0/1");
-        costsAre(Lay.stick("long 5;cuts 2;price 1 l=5", 0), 0, "1/1");
+        Fractions.costsAre(Lay.stick("long 5;cuts 1;price 1 c=0", 0), 0, "1/1");
+        Fractions.costsAre(Lay.stick("long 5;cuts 1;price 1 c=1", 0), 0, "0/1");
+        Fractions.costsAre(Lay.stick("long 5;cuts 2;price 1 c=1", 0), 0, "1/1");
+        Fractions.costsAre(Lay.stick("long 5;cuts 2;price 1 c=2", 0), 0, "0/1");
+        Fractions.costsAre(Lay.stick("long 5;cuts 3;price 1 c=2;price 2 c=2", 0), 0, "3/1");
+        Fractions.costsAre(Lay.stick("long 5;cuts 3;price 1 c=3", 0), 0, "0/1");
+        Fractions.costsAre(Lay.stick("long 5;cuts 2;price 1 l=5", 0), 0, "1/1");
         // first at 1 or 4, and then the 4 at any of three; of 2|3 none is as long
-        costsAre(Lay.stick("long 5;cuts 2;price 1 l=4", 0), 0, "1/2");
-        costsAre(Lay.stick("long 5;cuts 2;price 1 r=2", 0), 0, "2/3");
-        costsAre(Lay.stick("long 5;cuts 1;price 1 k=0;price 2 k=4", 0, 4), 0, "1/1");
-        costsAre(Lay.stick("long 5;cuts 1;price 1 k=0;price 2 k=4", 0, 4), 1, "2/1");
-        costsAre(Lay.stick("long 5;cuts 1;price 1 x=1;price 1 x=1", 0), 0, "1/2");
+        Fractions.costsAre(Lay.stick("long 5;cuts 2;price 1 l=4", 0), 0, "1/2");
+        Fractions.costsAre(Lay.stick("long 5;cuts 2;price 1 r=2", 0), 0, "2/3");
+        Fractions.costsAre(Lay.stick("long 5;cuts 1;price 1 k=0;price 2 k=4", 0, 4), 0, "1/1");
+        Fractions.costsAre(Lay.stick("long 5;cuts 1;price 1 k=0;price 2 k=4", 0, 4), 1, "2/1");
+        Fractions.costsAre(Lay.stick("long 5;cuts 1;price 1 x=1;price 1 x=1", 0), 0, "1/2");
     }
 
     private static void costsOfFewer() {
         Due.promise(14, "fewer, if nothing can be broken any more");
-        costsAre(Lay.stick("long 2;cuts 3;price 7 x>0", 0), 0, "7/1");
-        costsAre(Lay.stick("long 3;cuts 3;price 7 x>0", 0), 0, "14/1");
-        costsAre(Lay.stick("long 9;cuts 3;price 7 x>0;hard 1 c>1", 0), 0, "14/1");
-        costsAre(Lay.stick("long 9;cuts 3;price 7 x>0;hard 1 c<1", 0), 0, "0/1");
+        Fractions.costsAre(Lay.stick("long 2;cuts 3;price 7 x>0", 0), 0, "7/1");
+        Fractions.costsAre(Lay.stick("long 3;cuts 3;price 7 x>0", 0), 0, "14/1");
+        Fractions.costsAre(Lay.stick("long 9;cuts 3;price 7 x>0;hard 1 c>1", 0), 0, "14/1");
+        Fractions.costsAre(Lay.stick("long 9;cuts 3;price 7 x>0;hard 1 c<1", 0), 0, "0/1");
         BrokenThree s = Lay.stick("long 5;price 1 x>0");
         s.breaker(5, 3);
-        costsAre(s, 0, "3/2");
+        Fractions.costsAre(s, 0, "3/2");
     }
 
     private static void costsMost() {
         Due.promise(14, "as much as can be");
         BrokenThree s = Lay.stick("cuts 3;long 17;price 99 x>0;price 99 x>0;price 99 x>0;price 99 x>0;price 99 x>0;price 99 x>0", 0);
-        costsAre(s, 0, "1782/1");
+        Fractions.costsAre(s, 0, "1782/1");
         BrokenThree dear = Lay.stick("cuts 3;long 17;price 99 x>1;price 99 x>0;price 99 x>0;price 99 x>0;price 99 x>0;price 99 x>0", 0);
         // each of 16 notches is broken in 3 of 16 ways
-        costsAre(dear, 0, "28215/16");
-    }
-
-    private static void untilIs(BrokenThree s, int m, String want) {
-        Due.fraction("until(" + m + ", ..)", s.until(m, 0), s.until(m, 1), want);
+        Fractions.costsAre(dear, 0, "28215/16");
     }
 
     private static void untilTaken() {
@@ -381,42 +364,36 @@ public final class LikelyEdgesTest {
             Due.is("until(1, " + part + ")", s.until(1, part), NO);
             Due.is("until(16, " + part + ")", s.until(16, part), NO);
         }
-        untilIs(s, 1, "17/1");
-        untilIs(s, 16, "2/1");
-        untilIs(new BrokenThree(), 1, "12/1");
+        Fractions.untilIs(s, 1, "17/1");
+        Fractions.untilIs(s, 16, "2/1");
+        Fractions.untilIs(new BrokenThree(), 1, "12/1");
     }
 
     private static void untilAtM() {
         Due.promise(15, "each PIECE longer than m");
         for (int length = 2; length <= 16; length++) {
             BrokenThree s = Lay.stick("long " + length);
-            untilIs(s, length, "1/1");
-            untilIs(s, 16, "1/1");
+            Fractions.untilIs(s, length, "1/1");
+            Fractions.untilIs(s, 16, "1/1");
             if (length > 2) {
-                untilIs(s, length - 1, "2/1");
+                Fractions.untilIs(s, length - 1, "2/1");
             }
-            untilIs(s, 1, length + "/1");
+            Fractions.untilIs(s, 1, length + "/1");
         }
         // 5, m 2: 1|4 and 4|1: 1 and 8/3; 2|3 and 3|2: 1 and 2
-        untilIs(Lay.stick("long 5"), 2, "10/3");
+        Fractions.untilIs(Lay.stick("long 5"), 2, "10/3");
         // 5, m 3: 1|4: 1 and 2; 2|3: two
-        untilIs(Lay.stick("long 5"), 3, "5/2");
+        Fractions.untilIs(Lay.stick("long 5"), 3, "5/2");
     }
 
     private static void untilOfAnyStick() {
         Due.promise(15, "at any of its inner NOTCHES, no NOTCH being HARD; THE STICK at first");
         BrokenThree s = Lay.stick("long 5;cuts 1;hard 1 x>0", 0);
-        untilIs(s, 2, "10/3");
+        Fractions.untilIs(s, 2, "10/3");
         s = Lay.broken(Lay.stick("long 5;cuts 1", 0), 0, 1, 2, 3, 4);
-        untilIs(s, 2, "10/3");
-        untilIs(s, 4, "2/1");
+        Fractions.untilIs(s, 2, "10/3");
+        Fractions.untilIs(s, 4, "2/1");
         Due.is("told(2), after", s.told(2), 5);
-    }
-
-    private static void hiddenIs(int n, int a, int k, String want) {
-        BrokenThree s = new BrokenThree();
-        Due.fraction("hidden(" + n + ", " + a + ", " + k + ", ..)",
-                s.hidden(n, a, k, 0), s.hidden(n, a, k, 1), want);
     }
 
     private static void hiddenTaken() {
@@ -443,22 +420,22 @@ public final class LikelyEdgesTest {
 
     private static void hiddenEdges() {
         Due.promise(16, "each from any place on, alike likely: how likely all places are covered");
-        hiddenIs(3, 1, 1, "0/1");
-        hiddenIs(3, 2, 1, "0/1");
-        hiddenIs(3, 3, 1, "1/1");
-        hiddenIs(3, 3, 6, "1/1");
+        Fractions.hiddenIs(3, 1, 1, "0/1");
+        Fractions.hiddenIs(3, 2, 1, "0/1");
+        Fractions.hiddenIs(3, 3, 1, "1/1");
+        Fractions.hiddenIs(3, 3, 6, "1/1");
         // all of three places are met by six in 540 of 729 ways
-        hiddenIs(3, 1, 6, "20/27");
-        hiddenIs(10, 10, 1, "1/1");
-        hiddenIs(10, 9, 1, "0/1");
+        Fractions.hiddenIs(3, 1, 6, "20/27");
+        Fractions.hiddenIs(10, 10, 1, "1/1");
+        Fractions.hiddenIs(10, 9, 1, "0/1");
         // any two that do not lie alike
-        hiddenIs(10, 9, 2, "9/10");
-        hiddenIs(10, 1, 6, "0/1");
-        hiddenIs(10, 4, 2, "0/1");
-        hiddenIs(10, 5, 2, "1/10");
-        hiddenIs(4, 2, 2, "1/4");
-        hiddenIs(6, 1, 6, "5/324");
-        hiddenIs(6, 1, 5, "0/1");
+        Fractions.hiddenIs(10, 9, 2, "9/10");
+        Fractions.hiddenIs(10, 1, 6, "0/1");
+        Fractions.hiddenIs(10, 4, 2, "0/1");
+        Fractions.hiddenIs(10, 5, 2, "1/10");
+        Fractions.hiddenIs(4, 2, 2, "1/4");
+        Fractions.hiddenIs(6, 1, 6, "5/324");
+        Fractions.hiddenIs(6, 1, 5, "0/1");
     }
 
     private static void hiddenAll() {
@@ -468,7 +445,7 @@ public final class LikelyEdgesTest {
                 long[][] known = new long[7][1 << n];
                 for (int k = 1; k <= 6; k++) {
                     Model.Part due = Model.Part.of(ways(0, n, a, k, known), (long) Math.pow(n, k));
-                    hiddenIs(n, a, k, due.part(0) + "/" + due.part(1));
+                    Fractions.hiddenIs(n, a, k, due.part(0) + "/" + due.part(1));
                 }
             }
         }

@@ -100,20 +100,16 @@ public final class RowEdgesTest {
         Due.is("orders(1)", s.orders(1), 2);
     }
 
-    private static void chanceIs(BrokenThree s, int breaker, String want) {
-        Due.fraction("chance(" + breaker + ", ..)", s.chance(breaker, 0), s.chance(breaker, 1), want);
-    }
-
     private static void emptyRow() {
         Due.promise(24, "0, if the ROW can not be: an empty one");
         BrokenThree s = Lay.stick("long 5", 0);
         Due.is("orders(0)", s.orders(0), 0);
-        chanceIs(s, 0, "0/1");
+        Fractions.chanceIs(s, 0, "0/1");
         Due.is("who()", s.who(), 0);
         Due.is("likeliest()", s.likeliest(), -5);
         BrokenThree hard = Lay.stick("long 5;hard 1 x>0", 0);
         Due.is("orders(0)", hard.orders(0), 0);
-        chanceIs(hard, 0, "0/1");
+        Fractions.chanceIs(hard, 0, "0/1");
         Due.is("who()", hard.who(), 0);
     }
 
@@ -131,7 +127,7 @@ public final class RowEdgesTest {
         Due.is("1 1 1 15", Lay.seen(longest, 1, 1, 1, 15).orders(0), 0);
         Due.is("1 1 1 13", Lay.seen(longest, 1, 1, 1, 13).orders(0), 0);
         Due.is("14 1 1 1", Lay.seen(longest, 14, 1, 1, 1).orders(0), 6);
-        chanceIs(Lay.seen(longest, 17, 17, 17, 17), 0, "0/1");
+        Fractions.chanceIs(Lay.seen(longest, 17, 17, 17, 17), 0, "0/1");
     }
 
     private static void noMorePieces() {
@@ -186,8 +182,8 @@ public final class RowEdgesTest {
         Due.is("orders(1)", s.orders(1), 0);
         Due.is("orders(2), none being longer than 9", s.orders(2), 1);
         Due.is("orders(3)", s.orders(3), 0);
-        chanceIs(s, 0, "1/1");
-        chanceIs(s, 1, "0/1");
+        Fractions.chanceIs(s, 0, "1/1");
+        Fractions.chanceIs(s, 1, "0/1");
         Due.is("who()", s.who(), 5);
         Due.is("likeliest()", s.likeliest(), 0);
         Due.is("orders(0) of 8", Lay.seen(s, 8).orders(0), 0);
@@ -219,7 +215,7 @@ public final class RowEdgesTest {
         Due.is("orders(0)", s.orders(0), 2);
         Lay.broken(s, 0, 1, 2, 3, 4, 5);
         Due.is("orders(0)", s.orders(0), 2);
-        chanceIs(s, 0, "1/10");
+        Fractions.chanceIs(s, 0, "1/10");
         Due.is("who()", s.who(), 1);
         Due.text("pieces", Lay.pieces(s), "1,1,1,1,1,1");
         Due.promise(24, "the yard that holds");
@@ -238,39 +234,39 @@ public final class RowEdgesTest {
     private static void chanceParts() {
         Due.promise(25, "how likely just these come by it, in lowest terms");
         BrokenThree s = Lay.stick("long 17;cuts 3", 0, 1, 3, 4);
-        chanceIs(Lay.seen(s, 1, 1, 1, 14), 0, "1/560");
-        chanceIs(Lay.seen(s, 14, 1, 1, 1), 0, "1/560");
+        Fractions.chanceIs(Lay.seen(s, 1, 1, 1, 14), 0, "1/560");
+        Fractions.chanceIs(Lay.seen(s, 14, 1, 1, 1), 0, "1/560");
         // at 1, 2, 3 alone, of 16, 15, 14
-        chanceIs(Lay.seen(s, 1, 1, 1, 14), 1, "1/3360");
-        chanceIs(Lay.seen(s, 1, 1, 1, 14), 3, "0/1");
+        Fractions.chanceIs(Lay.seen(s, 1, 1, 1, 14), 1, "1/3360");
+        Fractions.chanceIs(Lay.seen(s, 1, 1, 1, 14), 3, "0/1");
         // as many ways three times over
-        chanceIs(Lay.seen(Lay.stick("long 17;cuts 3;hard 1 c=0&x>13|c=1&x>14|c=2&x>15", 0), 1, 1, 1, 14), 0, "6/2197");
-        chanceIs(Lay.seen(Lay.stick("long 17;cuts 3;hard 1 c=0&x>11|c=1&x>12|c=2&x>13", 0), 1, 1, 1, 14), 0, "6/1331");
+        Fractions.chanceIs(Lay.seen(Lay.stick("long 17;cuts 3;hard 1 c=0&x>13|c=1&x>14|c=2&x>15", 0), 1, 1, 1, 14), 0, "6/2197");
+        Fractions.chanceIs(Lay.seen(Lay.stick("long 17;cuts 3;hard 1 c=0&x>11|c=1&x>12|c=2&x>13", 0), 1, 1, 1, 14), 0, "6/1331");
         // halves: 8 9; the 9 at its 4 or 5; then the 8
-        chanceIs(Lay.seen(s, 4, 4, 4, 5), 3, "1/4");
-        chanceIs(Lay.seen(s, 4, 4, 5, 4), 3, "1/4");
-        chanceIs(Lay.seen(s, 4, 5, 4, 4), 3, "1/4");
+        Fractions.chanceIs(Lay.seen(s, 4, 4, 4, 5), 3, "1/4");
+        Fractions.chanceIs(Lay.seen(s, 4, 4, 5, 4), 3, "1/4");
+        Fractions.chanceIs(Lay.seen(s, 4, 5, 4, 4), 3, "1/4");
     }
 
     private static void chanceOfAll() {
         Due.promise(25, "of one break: of all notches one; of a stick of 2: surely");
         BrokenThree s = Lay.stick("long 17;cuts 1", 0, 4);
         for (int place = 1; place <= 16; place++) {
-            chanceIs(Lay.seen(s, place, 17 - place), 0, "1/16");
-            chanceIs(s, 1, place == 8 || place == 9 ? "1/2" : "0/1");
+            Fractions.chanceIs(Lay.seen(s, place, 17 - place), 0, "1/16");
+            Fractions.chanceIs(s, 1, place == 8 || place == 9 ? "1/2" : "0/1");
         }
-        chanceIs(Lay.seen(Lay.stick("long 2;cuts 1", 0), 1, 1), 0, "1/1");
-        chanceIs(Lay.seen(Lay.stick("long 3;cuts 2", 0), 1, 1, 1), 0, "1/1");
-        chanceIs(Lay.seen(Lay.stick("long 4;cuts 3", 0), 1, 1, 1, 1), 0, "1/1");
+        Fractions.chanceIs(Lay.seen(Lay.stick("long 2;cuts 1", 0), 1, 1), 0, "1/1");
+        Fractions.chanceIs(Lay.seen(Lay.stick("long 3;cuts 2", 0), 1, 1, 1), 0, "1/1");
+        Fractions.chanceIs(Lay.seen(Lay.stick("long 4;cuts 3", 0), 1, 1, 1, 1), 0, "1/1");
     }
 
     private static void chanceOfFewer() {
         Due.promise(25, "of fewer CUTS, if nothing can be broken any more");
         BrokenThree s = Lay.stick("long 9;cuts 3;hard 1 c>1", 0, 1);
-        chanceIs(Lay.seen(s, 3, 3, 3), 0, "1/28");
-        chanceIs(Lay.seen(s, 3, 3, 3), 1, "1/20");
-        chanceIs(Lay.seen(s, 3, 2, 2, 2), 0, "0/1");
-        chanceIs(Lay.seen(s, 4, 5), 0, "0/1");
+        Fractions.chanceIs(Lay.seen(s, 3, 3, 3), 0, "1/28");
+        Fractions.chanceIs(Lay.seen(s, 3, 3, 3), 1, "1/20");
+        Fractions.chanceIs(Lay.seen(s, 3, 2, 2, 2), 0, "0/1");
+        Fractions.chanceIs(Lay.seen(s, 4, 5), 0, "0/1");
     }
 
     private static void lostIs(BrokenThree s, int breaker, int want, int... row) {
@@ -386,8 +382,8 @@ public final class RowEdgesTest {
         // one way and then two, two ways and then one
         String yard = "long 5;hard 1 k=0&c=0&x<3;hard 1 k=0&c=1&!x=1;hard 1 k=1&c=0&!x=3";
         BrokenThree halves = Lay.seen(Lay.stick(yard, 0, 1), 1, 2, 2);
-        chanceIs(halves, 0, "1/2");
-        chanceIs(halves, 1, "1/2");
+        Fractions.chanceIs(halves, 0, "1/2");
+        Fractions.chanceIs(halves, 1, "1/2");
         Due.is("likeliest(), two halves", halves.likeliest(), 0);
         Due.is("likeliest(), two halves", Lay.seen(Lay.stick(yard, 1, 0), 1, 2, 2).likeliest(), 0);
         // 15 and 16 ways, just beside one another

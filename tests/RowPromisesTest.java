@@ -82,23 +82,19 @@ public final class RowPromisesTest {
         Due.is("2 4", Lay.seen(s, 2, 4).orders(0), 0);
     }
 
-    private static void chanceIs(BrokenThree s, int breaker, String want) {
-        Due.fraction("chance(" + breaker + ", ..)", s.chance(breaker, 0), s.chance(breaker, 1), want);
-    }
-
     private static void chance() {
         Due.promise(25, "chance");
         BrokenThree s = Lay.seen(Lay.stick("long 5", 0, 1, 3, 4), 2, 2, 1);
-        chanceIs(s, 0, "1/6");
+        Fractions.chanceIs(s, 0, "1/6");
         // first at 2: at 4 is one of two; first at 4: at 2 one of three
-        chanceIs(s, 1, "5/24");
+        Fractions.chanceIs(s, 1, "5/24");
         // first at 2: the left 2 is next; first at 4: one of three
-        chanceIs(s, 2, "1/12");
-        chanceIs(s, 3, "1/4");
-        chanceIs(Lay.seen(s, 2, 2), 0, "0/1");
-        chanceIs(Lay.seen(Lay.stick("long 9;hard 1 x>0", 0), 9), 0, "1/1");
-        chanceIs(Lay.seen(Lay.stick("long 9;cuts 3;hard 1 c>0", 0), 4, 5), 0, "1/8");
-        chanceIs(Lay.seen(Lay.stick("long 17;cuts 3", 0), 1, 2, 3, 11), 0, "1/560");
+        Fractions.chanceIs(s, 2, "1/12");
+        Fractions.chanceIs(s, 3, "1/4");
+        Fractions.chanceIs(Lay.seen(s, 2, 2), 0, "0/1");
+        Fractions.chanceIs(Lay.seen(Lay.stick("long 9;hard 1 x>0", 0), 9), 0, "1/1");
+        Fractions.chanceIs(Lay.seen(Lay.stick("long 9;cuts 3;hard 1 c>0", 0), 4, 5), 0, "1/8");
+        Fractions.chanceIs(Lay.seen(Lay.stick("long 17;cuts 3", 0), 1, 2, 3, 11), 0, "1/560");
         Due.is("chance(4, 0)", s.chance(4, 0), BrokenThree.NO);
         Due.is("chance(-1, 0)", s.chance(-1, 0), BrokenThree.NO);
         Due.is("chance(0, 2)", s.chance(0, 2), BrokenThree.NO);
